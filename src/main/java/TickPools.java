@@ -19,6 +19,7 @@ public final class TickPools {
     private static final int MOST_STAKES = 12;
     private static final int MOST_BYTES = 400;
     private static final int PARTS = 10;
+    private static final int MOST_IN_RING = 10000;
     // Twice what halving any range of an int can need.
     private static final int MOST_HALVINGS = 64;
 
@@ -315,12 +316,13 @@ public final class TickPools {
         if (!canWander(from, to, amount) || what < 0 || what > 4) {
             return NONE;
         }
-        finder.findRoute(live, from, to, amount);
+        finder.forget(-amount);
+        finder.search(live, from, to, amount);
         if (finder.bestLength == 0) {
             return CANNOT;
         }
         switch (what) {
-            case 0: return (int) finder.bestGiven;
+            case 0: return (int) (finder.bestGain + amount);
             case 1: return finder.bestLength;
             default: return finder.bestPool(what - 2);
         }
@@ -337,13 +339,14 @@ public final class TickPools {
         for (int k = 1; k <= PARTS; k++) {
             int part = amount * k / PARTS - amount * (k - 1) / PARTS;
             if (part > 0) {
-                finder.findRoute(spare, from, to, part);
+                finder.forget(-part);
+                finder.search(spare, from, to, part);
                 if (finder.bestLength == 0) {
                     return CANNOT;
                 }
                 firstRow = firstRow == 0 ? finder.bestCode() : firstRow;
                 others += finder.bestCode() == firstRow ? 0 : 1;
-                given += finder.bestGiven;
+                given += finder.bestGain + part;
                 finder.follow(spare, from, part);
             }
         }
@@ -354,13 +357,16 @@ public final class TickPools {
         if (!live.hasThing(thing) || what < 0 || what > 5) {
             return NONE;
         }
-        finder.findRing(live, thing);
+        finder.forget(0);
+        for (int amount = 1; amount <= MOST_IN_RING; amount *= 10) {
+            finder.search(live, thing, thing, amount);
+        }
         if (finder.bestLength == 0) {
             return CANNOT;
         }
         switch (what) {
-            case 0: return (int) (finder.bestGiven - finder.bestAmount);
-            case 1: return (int) finder.bestAmount;
+            case 0: return (int) finder.bestGain;
+            case 1: return finder.bestAmount;
             case 2: return finder.bestLength;
             default: return finder.bestPool(what - 3);
         }
@@ -649,6 +655,9 @@ public final class TickPools {
         }
 
         long owed(int side) {
+            if (side < 0 || side > 1) {
+                return 0;
+            }
             return debt[side] + liquidity * gain[side] / GAIN_UNIT;
         }
 
@@ -764,8 +773,10 @@ public final class TickPools {
         }
 
         void payOut(Pool p, int side, int person, int amount) {
-            p.held[side] -= amount;
-            putIntoPurse(person, p.thingOn(side), amount);
+            if (isSide(side)) {
+                p.held[side] -= amount;
+                putIntoPurse(person, p.thingOn(side), amount);
+            }
         }
 
         int allOf(int thing) {
@@ -815,7 +826,7 @@ public final class TickPools {
 
         long overIn(int pool, int side) {
             Pool p = poolAt(pool);
-            if (p == null) {
+            if (p == null || !isSide(side)) {
                 return 0;
             }
             long over = p.held[side] - p.house[side];
@@ -916,7 +927,7 @@ public final class TickPools {
         void share(int pool, int side, long fee) {
             Pool p = poolAt(pool);
             long liquidity = p == null ? 0 : liquidityAt(pool, p.zone);
-            if (liquidity < 1) {
+            if (liquidity < 1 || !isSide(side)) {
                 return;
             }
             long cut = fee * p.cut / 100;
@@ -993,7 +1004,7 @@ public final class TickPools {
             gave = 0;
             paid = 0;
             fees = 0;
-            if (pool == null) {
+            if (pool == null || !isSide(side)) {
                 return false;
             }
             root = pool.root;
@@ -1063,14 +1074,27 @@ public final class TickPools {
                 crossed++;
                 zone = side == 0 ? aim - 1 : aim;
             } else {
-                int most = side == 0 ? zone : aim - 1;
-                int natural = Curve.zoneOf(root);
-                zone = natural < most ? natural : most;
+                zone = zoneShortOf(aim);
             }
             if (real) {
                 pool.root = root;
                 pool.zone = zone;
             }
+        }
+
+        // Counted from the zone it was, since a pool that came down to a tick stands below it with the tick's root.
+        private int zoneShortOf(int aim) {
+            int z = zone;
+            if (side == 0) {
+                while (z > 0 && Curve.rootAt(z) > root) {
+                    z--;
+                }
+                return z;
+            }
+            while (z + 1 < aim && Curve.rootAt(z + 1) <= root) {
+                z++;
+            }
+            return z;
         }
 
         private void finish(int person) {
@@ -1755,8 +1779,8 @@ public final class TickPools {
         private static final int MOST_LONG = 3;
         private static final int MOST_LOOKS = 100000;
 
-        long bestGiven;
-        long bestAmount;
+        long bestGain;
+        int bestAmount;
         int bestLength;
         private final Trade trade;
         private final int[] best;
@@ -1788,24 +1812,15 @@ public final class TickPools {
             return code;
         }
 
-        void findRoute(Market market, int from, int to, int much) {
-            bestLength = 0;
-            bestGiven = 0;
-            bestAmount = much;
-            look(market, from, to, much);
-        }
-
-        void findRing(Market market, int from) {
-            bestLength = 0;
-            bestGiven = 0;
+        // Only rows that gain more than this will count.
+        void forget(int gain) {
+            bestGain = gain;
             bestAmount = 0;
-            for (int much = 1; much <= 10000; much *= 10) {
-                look(market, from, from, much);
-            }
+            bestLength = 0;
         }
 
         // Rows of one length are met in their order, so of equal ones the first stays.
-        private void look(Market market, int from, int to, int much) {
+        void search(Market market, int from, int to, int much) {
             int depth = 0;
             thing[0] = from;
             amount[0] = much;
@@ -1866,13 +1881,12 @@ public final class TickPools {
             return trade.gave;
         }
 
-        // By gain: for a route, all of whose rows are of one amount, that is by what comes out.
+        // By gain: among rows of one amount that is by what comes out.
         private void consider(int length, long given, int much) {
             long gain = given - much;
-            long bestGain = bestGiven - bestAmount;
             boolean shorter = gain == bestGain && much == bestAmount && length < bestLength;
             if (gain > bestGain || shorter) {
-                bestGiven = given;
+                bestGain = gain;
                 bestAmount = much;
                 bestLength = length;
                 System.arraycopy(row, 0, best, 0, best.length);
