@@ -108,6 +108,13 @@ public final class AskTest {
         routeIs(x, 0, 3, 100, 95, 3, 0, 1, 2);
         routeIs(x, 3, 0, 100, 96, 3, 2, 1, 0);
         routeIs(x, 0, 4, 100, -2, -2, -2, -2, -2);
+        TickPools y = Bench.made("market 3 1;pool 0 1 0 0 1 1 1;pool 1 2 0 0 1 9999 1"
+            + ";purse 0 0 999999;purse 0 1 999999;purse 0 2 999999");
+        y.add(0, 0, 0, 40, 0, 99999);
+        y.add(0, 1, 0, 40, 0, 99999);
+        BENCH.due("of 3 but one", y.quoteIn(0, 0, 3, 0, 0), 1);
+        routeIs(y, 0, 2, 3, y.quoteIn(1, 0, 1, 0, 0), 2, 0, 1, -2);
+        BENCH.holds("which gives some", y.quoteIn(1, 0, 1, 0, 0) > 1);
         // Of 1 nothing comes out at all.
         routeIs(x, 0, 3, 1, -2, -2, -2, -2, -2);
         BENCH.holds("nothing changed", before.equals(Bench.picture(x)));

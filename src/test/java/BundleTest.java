@@ -64,6 +64,9 @@ public final class BundleTest {
         faulty("  ", 2, 0);
         faulty("zoo", 0, 0);
         faulty("market 2 1", 0, 0);
+        faulty("inz 0 0 5", 0, 0);
+        faulty("xn 0 0 5", 0, 0);
+        faulty("in 0 0 xll", 7, 0);
         faulty("in", 2, 0);
         faulty("in 0 0", 6, 0);
         faulty("in 0 0 ", 7, 0);
@@ -254,6 +257,7 @@ public final class BundleTest {
         faulty("lend 0 0 5 [add 0 19 21 5]", 12, 5);
         faulty("add 0 19 21 5;lend 0 0 5 [drop 0 19 21]", 26, 5);
         faulty("lend 0 0 5 [lend 0 1 5 [least 0 0]]", 12, 5);
+        answers("lend 0 0 1 [least 0 50001]", 2);
         answers("lend 0 0 5 [least 0 0]; in 0 0 5; lend 0 0 5 [least 0 0]", 5);
         answers("times 3 [lend 0 0 5 [least 0 0]]", 7);
     }

@@ -22,9 +22,13 @@ public final class SwapTest {
         backUpThroughTheSameTick();
         feesOnlyToThoseThatAreIn();
         tinyAmountIsAllFee();
+        endInItsOwnZone();
+        rootOnATick();
+        withinTheOutermostZones();
         time();
         means();
         marksAreEight();
+        meansOverManyMarks();
         quotesWrongly();
         BENCH.finish();
     }
@@ -215,6 +219,10 @@ public final class SwapTest {
         BENCH.due("one too poor", x.out(1, 0, 0, 100), -3);
         BENCH.due("can't be goes first", x.out(1, 0, 0, 466), -2);
         BENCH.holds("nothing happened", before.equals(Bench.picture(x)));
+        x = Bench.made("market 2 2;pool 0 1 10 20 1 1 1;purse 0 0 9000;purse 0 1 9000;purse 1 0 104");
+        x.add(0, 0, 19, 21, 0, 10000);
+        BENCH.due("just enough", x.out(1, 0, 0, 100), 104);
+        BENCH.due("purse", x.purse(1, 0), 0);
         // His own stake would fall to him on the way: that does not help.
         x = Bench.made("market 2 2;pool 0 1 10 20 1 1 1;purse 0 0 9000;purse 0 1 9000;purse 1 0 956;purse 1 1 467");
         x.add(1, 0, 19, 21, 2, 10000);
@@ -332,6 +340,60 @@ public final class SwapTest {
         BENCH.due("owed", x.stake(0, 8), 0);
     }
 
+    private static void endInItsOwnZone() {
+        TickPools x = plain();
+        x.in(1, 0, 1, 100, 40);
+        // Down from 100990 to tick 20: FIRST 10^9 * 990 / (100000 * 100990) = 98.03: 99; fee 1; SECOND 99.
+        quoteInIs(x, 0, 500, 20, 99, 400, 1, 20, 0);
+        quoteInIs(x, 1, 500, 20, 0, 500, 0, 20, 0);
+        BENCH.due("in", x.in(1, 0, 0, 500, 20), 99);
+        BENCH.due("root", x.pool(0, 6), 100000);
+        BENCH.due("zone", x.pool(0, 5), 20);
+    }
+
+    private static void rootOnATick() {
+        TickPools x = Bench.made("market 2 1;pool 0 1 0 0 1 1 1;purse 0 0 9999999;purse 0 1 9999999");
+        x.add(0, 0, 15, 25, 0, 50000);
+        x.add(0, 0, 15, 25, 1, 50000);
+        // 4880 * 100000 / 100000 more: the root of tick 21, at which no stake begins or ends.
+        quoteInIs(x, 1, 4880, 40, 4652, 0, 0, 21, 0);
+        quoteInIs(x, 1, 4879, 40, 4652, 0, 0, 20, 0);
+        x = Bench.made("market 2 1;pool 0 1 0 0 1 1 1;purse 0 0 9999999;purse 0 1 9999999");
+        for (int i = 0; i < 10; i++) {
+            x.add(0, 0, 20, 21, 0, 99999);
+            x.add(0, 0, 19, 20, 0, 99999);
+        }
+        // Of 999990 there are 46528.8 up to tick 21: one less, and the root is upwards that of 21, but not reached.
+        quoteOutIs(x, 1, 46527, 48800, 0, 20, 0);
+        quoteOutIs(x, 1, 46528, 48800, 0, 21, 1);
+        // Across tick 20, at which it stands, there are 46539.5 down to tick 19.
+        quoteOutIs(x, 0, 46538, 48812, 0, 19, 1);
+        quoteOutIs(x, 0, 46539, 48812, 0, 18, 2);
+        x.out(0, 0, 0, 46538);
+        BENCH.due("root", x.pool(0, 6), 95346);
+        BENCH.due("zone", x.pool(0, 5), 19);
+        // The tick itself is still ahead.
+        quoteInIs(x, 0, 1, 0, 0, 1, 0, 0, 1);
+    }
+
+    private static void withinTheOutermostZones() {
+        TickPools x = Bench.made("market 2 1;pool 0 1 0 0 1 1 9999;purse 0 0 9999999;purse 0 1 9999999");
+        x.add(0, 0, 0, 3, 0, 99999);
+        x.in(0, 0, 1, 3000, 40);
+        // 3000 * 100000 / 99999 more than 38554.
+        BENCH.due("root", x.pool(0, 6), 41554);
+        BENCH.due("zone", x.pool(0, 5), 1);
+        BENCH.due("down", x.in(0, 0, 0, 12000, 0), 1972);
+        BENCH.due("root", x.pool(0, 6), 39581);
+        BENCH.due("zone", x.pool(0, 5), 0);
+        x = Bench.made("market 2 1;pool 0 1 0 0 1 9999 1;purse 0 0 9999999;purse 0 1 9999999");
+        x.add(0, 0, 37, 40, 0, 99999);
+        x.in(0, 0, 0, 4000, 0);
+        BENCH.due("zone", x.pool(0, 5), 37);
+        x.in(0, 0, 1, 20000, 40);
+        BENCH.due("zone", x.pool(0, 5), 39);
+    }
+
     private static void time() {
         TickPools x = plain();
         BENCH.due("passes", x.passes(1), 1);
@@ -388,6 +450,43 @@ public final class SwapTest {
         x.in(1, 0, 0, 1, 40);
         BENCH.due("it is gone, the next one is at 2", x.mean(0, 14), -2);
         BENCH.holds("from 2 on it is known", x.mean(0, 13) >= 0);
+    }
+
+    private static void meansOverManyMarks() {
+        TickPools x = Bench.made(PLAIN);
+        int[] zones = new int[200];
+        int time = 0;
+        int zone = 20;
+        // Nothing is staked: so an end can be gone to at will, and each second's zone is known here.
+        for (int i = 1; i <= 20; i++) {
+            int passed = i % 4 == 0 ? 1 : i % 5 + 1;
+            for (int s = 0; s < passed; s++) {
+                zones[time + s] = zone;
+            }
+            time += passed;
+            x.passes(passed);
+            int goal = i * 7 % 39;
+            if (goal <= zone) {
+                x.in(0, 0, 0, 1, goal);
+                zone = goal;
+            } else {
+                x.in(0, 0, 1, 1, goal);
+                zone = goal - 1;
+            }
+            BENCH.due("zone", x.pool(0, 5), zone);
+            int first = 0;
+            int sum = 0;
+            for (int n = 1; n <= time; n++) {
+                sum += zones[time - n];
+                int mean = x.mean(0, n);
+                if (mean == -2) {
+                    first = n;
+                    break;
+                }
+                BENCH.due("mean of " + n, mean, sum / n);
+            }
+            BENCH.holds("known as long as eight marks", i < 8 ? first == 0 : first > 7);
+        }
     }
 
     private static void quotesWrongly() {

@@ -124,6 +124,9 @@ public final class TapeTest {
         faulty("markets 2 1", 0, 0);
         faulty(" Market 2 1", 1, 0);
         faulty("2 1", 0, 0);
+        faulty("marketz 2 1", 0, 0);
+        faulty("xarket 2 1", 0, 0);
+        faulty("market 2 1;xool 0 1 0 0 1 1 1", 11, 0);
         faulty("market\t2 1", 6, 0);
         faulty("market 2 1;pool 0 1 0 0 1 1", 27, 0);
         faulty("market 2 1;pool 0 1 0 0 1 1;", 27, 0);
@@ -171,10 +174,16 @@ public final class TapeTest {
     }
 
     private static void faultKeepsAll() {
-        TickPools x = Bench.made("market 2 1;pool 0 1 3 50 1 1 1;purse 0 0 5000;purse 0 1 5000");
+        TickPools x = Bench.made("market 2 1;pool 0 1 99 50 1 1 1;purse 0 0 5000;purse 0 1 5000");
         x.add(0, 0, 18, 22, 0, 1000);
-        x.passes(5);
-        x.in(0, 0, 0, 50, 0);
+        for (int i = 0; i < 10; i++) {
+            x.passes(5);
+            x.in(0, 0, 0, 50, 0);
+            x.in(0, 0, 1, 50, 40);
+        }
+        // So that nothing of it, nor of a copy that it may have, lasts into the next market.
+        x.round(0, 0, 50);
+        BENCH.holds("the house has some", x.pool(0, 10) > 0 && x.pool(0, 11) > 0);
         String before = Bench.picture(x);
         BENCH.due("a fault", Bench.market(x, "market 3 2;pool 0 1 0 0 1 1 1;purse 0 0 1;"), Bench.fault(42, 0));
         BENCH.holds("all stays behind a fault", before.equals(Bench.picture(x)));
@@ -186,5 +195,8 @@ public final class TapeTest {
         BENCH.due("purses anew", x.purse(0, 0), 0);
         BENCH.due("holds nothing", x.pool(0, 8) + x.pool(0, 9) + x.pool(0, 10) + x.pool(0, 11), 0);
         BENCH.due("marks anew", x.mean(0, 1), -2);
+        x.passes(3);
+        BENCH.due("marks anew", x.mean(0, 3), x.pool(0, 5));
+        BENCH.due("marks anew", x.mean(0, 4), -2);
     }
 }
