@@ -134,6 +134,7 @@ public final class BundleTest {
 
     private static void tooDeep() {
         answers("times 1[times 1[times 1[times 1[least 0 0]]]]", 5);
+        answers("times 2[times 2[times 2[times 2[least 0 0]]]]", 2 * (1 + 2 * (1 + 2 * (1 + 2))) + 1);
         answers(" times 1 [ times 1 [ least 0 0 ] ; times 1 [ times 1 [ least 0 0 ] ; least 1 0 ] ] ; least 0 0 ", 8);
         faulty("times 1[times 1[times 1[times 1[times 1[least 0 0]]]]]", 39, 3);
         faulty("times 1[times 1[times 1[times 1[times 1 x", 40, 0);
@@ -221,6 +222,8 @@ public final class BundleTest {
         faulty("out 0 0 466", 0, 5);
         faulty("out 0 0 9999999", 0, 5);
         faulty("add 0 21 19 5", 0, 5);
+        faulty("add 0 5 0 5", 0, 5);
+        faulty("drop 0 5 0", 0, 5);
         faulty("add 0 21 21 5", 0, 5);
         faulty("add 0 0 1 99999;add 0 0 40 99999", 16, 5);
         faulty("drop 0 19 21", 0, 5);
@@ -229,6 +232,12 @@ public final class BundleTest {
         TickPools x = Bench.made("market 2 2;pool 0 1 10 20 2 1 1;purse 0 0 9999;purse 0 1 9999;purse 1 0 103");
         x.add(0, 0, 18, 22, 0, 10000);
         BENCH.due("too poor", Bench.bundle(x, 1, "least 0 0;out 0 0 100"), Bench.fault(10, 5));
+        TickPools y = Bench.made("market 2 2;pool 0 1 10 20 2 1 1;purse 0 0 9999;purse 0 1 9999;purse 1 0 104");
+        y.add(0, 0, 18, 22, 0, 10000);
+        BENCH.due("just enough", Bench.bundle(y, 1, "least 0 0;out 0 0 100"), 2);
+        y = Bench.made("market 2 1;pool 0 1 10 20 2 1 1;purse 0 0 9999;purse 0 1 9999");
+        y.add(0, 0, 18, 22, 0, 1);
+        BENCH.due("any liquidity will do", Bench.bundle(y, 0, "lend 0 0 1 [least 0 0]"), 2);
         BENCH.due("spacing", Bench.bundle(x, 0, "add 0 19 22 1"), Bench.fault(0, 5));
         x.in(0, 0, 0, 9000, 0);
         BENCH.due("it holds some", x.pool(0, 8) > 100 ? 1 : 0, 1);
