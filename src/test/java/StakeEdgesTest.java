@@ -20,6 +20,7 @@ public final class StakeEdgesTest {
         overWithHouseAndOwed();
         addUpToThePurse();
         addOfWhatDoesNotFit();
+        addBySpacing();
         addToTheSameFive();
         addUpToTheMostLiquidity();
         addUpToTwelve();
@@ -301,6 +302,27 @@ public final class StakeEdgesTest {
         BENCH.due("0 to 40", x.add(0, 0, 0, 40, 0, 1), 0);
         BENCH.due("30 to 40", x.add(0, 0, 30, 40, 1, 99999), 1);
         BENCH.due("0 to 10", x.add(1, 0, 0, 10, 2, 99999), 2);
+    }
+
+    private static void addBySpacing() {
+        for (int spacing = 1; spacing <= 10; spacing++) {
+            TickPools x = Bench.made("market 2 1;pool 0 1 0 0 " + spacing + " 1 1;purse 0 0 9999;purse 0 1 9999");
+            int last = 0;
+            while (last + spacing <= 40) {
+                last += spacing;
+            }
+            BENCH.due("the widest of " + spacing, x.add(0, 0, 0, last, 0, 1), 0);
+            BENCH.due("the last of " + spacing, x.add(0, 0, last - spacing, last, 1, 1), 1);
+            BENCH.due("the first of " + spacing, x.add(0, 0, 0, spacing, 2, 1), 2);
+            BENCH.due("beyond tick 40", x.add(0, 0, 0, last + spacing, 0, 1), -1);
+            BENCH.due("below tick 0", x.add(0, 0, -spacing, spacing, 0, 1), -1);
+            BENCH.due("none between like ticks", x.add(0, 0, spacing, spacing, 0, 1), -1);
+            for (int off = 1; off < spacing; off++) {
+                BENCH.due("LOW " + off, x.add(0, 0, off, last, 0, 1), -1);
+                BENCH.due("HIGH " + (last - off), x.add(0, 0, 0, last - off, 0, 1), -1);
+            }
+            BENCH.due("stakes", x.count(3), 3);
+        }
     }
 
     private static void addToTheSameFive() {
