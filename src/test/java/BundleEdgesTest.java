@@ -43,6 +43,8 @@ public final class BundleEdgesTest {
         hundredSteps();
         firstFailIsTold();
         whollyOrNotAtAll();
+        owedComesBackBehindAFail();
+        faultLeavesNoBracketOpen();
         swapsGoToTheirEnds();
         BENCH.finish();
     }
@@ -694,6 +696,57 @@ public final class BundleEdgesTest {
         y.out(1, 0, 1, 5);
         BENCH.holds("as by hand", Bench.picture(x).equals(Bench.picture(y)));
         BENCH.holds("the fails left nothing behind", x.mean(0, 10) == known);
+    }
+
+    private static void owedComesBackBehindAFail() {
+        TickPools x = twoPools();
+        TickPools y = twoPools();
+        for (TickPools z : new TickPools[] {x, y}) {
+            for (int i = 0; i < 3; i++) {
+                // DEBT of both things by the first swaps, and GAIN besides by the others.
+                z.in(1, 0, 0, 777, 0);
+                z.in(1, 0, 1, 777, 40);
+                z.in(1, 1, 1, 555, 40);
+                z.in(1, 1, 0, 555, 0);
+                if (i == 1) {
+                    z.take(0, 1);
+                    z.add(0, 1, 15, 25, 0, 1);
+                }
+            }
+        }
+        for (int stake = 0; stake < 2; stake++) {
+            BENCH.holds("owed of the first", x.stake(stake, 8) > 5);
+            BENCH.holds("owed of the second", x.stake(stake, 9) > 5);
+        }
+        answers(x, "in 0 0 50;in 1 1 50;lend 0 1 50 [least 0 9999999]", Bench.fault(33, 5));
+        answers(x, "least 0 9999999", Bench.fault(0, 5));
+        BENCH.due("a drop that does not last", Bench.bundle(x, 0, "drop 0 15 25;drop 1 15 25;in 0 0 5;in 0 1 0"),
+            Bench.fault(35, 5));
+        BENCH.due("the fraction of it, too", x.in(1, 0, 0, 61, 0), y.in(1, 0, 0, 61, 0));
+        for (int stake = 0; stake < 2; stake++) {
+            BENCH.due("as owed without these", x.stake(stake, 8), y.stake(stake, 8));
+            BENCH.due("as owed without these", x.stake(stake, 9), y.stake(stake, 9));
+            BENCH.due("as paid without these", x.pay(stake), y.pay(stake));
+        }
+        BENCH.holds("as it would be without these", Bench.picture(x).equals(Bench.picture(y)));
+    }
+
+    private static void faultLeavesNoBracketOpen() {
+        TickPools x = twoPools();
+        String[] faulty = {"times 1[times 1[times 1[times 1[zoo", "lend 0 0 5[lend 1 0 5[", "times 2[least 0 0;"};
+        for (String text : faulty) {
+            BENCH.holds("a fault", Bench.bundle(x, 1, text) < -2);
+            answers(x, "least 0 0", 1);
+            BENCH.holds("a fault", Bench.bundle(x, 1, text) < -2);
+            answers(x, "least 0 0]", Bench.fault(9, 0));
+            BENCH.holds("a fault", Bench.bundle(x, 1, text) < -2);
+            answers(x, "times 1[times 1[times 1[times 1[least 0 0]]]]", 5);
+        }
+        // Nor does a fail within brackets.
+        answers(x, "times 2[times 2[times 2[times 2[least 0 9999999]]]]", Bench.fault(32, 5));
+        answers(x, "least 0 0", 1);
+        answers(x, "lend 0 0 5[lend 1 0 5[least 0 9999999]]", Bench.fault(22, 5));
+        answers(x, "lend 0 0 5[lend 1 0 5[least 0 0]]", 3);
     }
 
     private static void swapsGoToTheirEnds() {

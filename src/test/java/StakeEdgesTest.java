@@ -93,6 +93,15 @@ public final class StakeEdgesTest {
         for (int[] n : near) {
             begins(n[0], n[1]);
         }
+        // Just squares, and what lies less than 1 below the square of 41501, 54644, 57429, 62476.
+        int[][] squares = {{9, 4}, {25, 16}, {9801, 8100}, {4, 9}, {6084, 961}, {691, 4012}, {1149, 3848}, {967, 2932},
+            {1525, 3907}};
+        for (int[] n : squares) {
+            begins(n[0], n[1]);
+        }
+        TickPools x = Bench.made("market 2 1;pool 0 1 0 0 1 691 4012;pool 0 1 0 0 1 9 4");
+        BENCH.due("41500.9", x.pool(0, 6), 41500);
+        BENCH.due("150000 wholly", x.pool(1, 6), 150000);
     }
 
     private static void zonesAtFirst() {
