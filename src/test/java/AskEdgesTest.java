@@ -60,10 +60,6 @@ public final class AskEdgesTest {
         return x;
     }
 
-    private static int[] odd(int below, int above) {
-        return new int[] {below, above, Integer.MIN_VALUE, Integer.MAX_VALUE};
-    }
-
     /** What comes out by a row that is told pool by pool, each asked for alone. */
     private static int byRow(TickPools x, int from, int amount, int... row) {
         int thing = from;
@@ -80,13 +76,13 @@ public final class AskEdgesTest {
 
     private static void roundAtItsBounds() {
         TickPools x = plain();
-        for (int n : odd(-1, 1)) {
+        for (int n : Bench.odd(-1, 1)) {
             BENCH.due("pool " + n, x.round(n, 0, 5), -1);
         }
-        for (int n : odd(-1, 2)) {
+        for (int n : Bench.odd(-1, 2)) {
             BENCH.due("side " + n, x.round(0, n, 5), -1);
         }
-        for (int n : odd(0, 10000000)) {
+        for (int n : Bench.odd(0, 10000000)) {
             BENCH.due("amount " + n, x.round(0, 0, n), -1);
         }
         // 465 come out at most, and go back up from tick 0: n is 460, 10^9 * 4600 / (95346 * 99946) = 482.7.
@@ -145,13 +141,13 @@ public final class AskEdgesTest {
 
     private static void leastAtItsBounds() {
         TickPools x = plain();
-        for (int n : odd(-1, 1)) {
+        for (int n : Bench.odd(-1, 1)) {
             BENCH.due("pool " + n, x.least(n, 0, 20), -1);
         }
-        for (int n : odd(-1, 2)) {
+        for (int n : Bench.odd(-1, 2)) {
             BENCH.due("side " + n, x.least(0, n, 20), -1);
         }
-        for (int n : odd(-1, 40)) {
+        for (int n : Bench.odd(-1, 40)) {
             BENCH.due("zone " + n, x.least(0, 0, n), -1);
             BENCH.due("zone " + n, x.least(0, 1, n), -1);
         }
@@ -248,17 +244,17 @@ public final class AskEdgesTest {
 
     private static void routeAtItsBounds() {
         TickPools x = plain();
-        for (int n : odd(-1, 3)) {
+        for (int n : Bench.odd(-1, 3)) {
             BENCH.due("from " + n, x.route(n, 1, 5, 0), -1);
             BENCH.due("to " + n, x.route(0, n, 5, 0), -1);
         }
         for (int thing = 0; thing < 3; thing++) {
             BENCH.due("like things", x.route(thing, thing, 5, 0), -1);
         }
-        for (int n : odd(0, 10000000)) {
+        for (int n : Bench.odd(0, 10000000)) {
             BENCH.due("amount " + n, x.route(0, 1, n, 0), -1);
         }
-        for (int n : odd(-1, 5)) {
+        for (int n : Bench.odd(-1, 5)) {
             BENCH.due("what " + n, x.route(0, 1, 100, n), -1);
             BENCH.due("what " + n + ", where there is none", x.route(0, 2, 100, n), -1);
         }
@@ -396,17 +392,17 @@ public final class AskEdgesTest {
 
     private static void partsAtTheirBounds() {
         TickPools x = plain();
-        for (int n : odd(-1, 3)) {
+        for (int n : Bench.odd(-1, 3)) {
             BENCH.due("from " + n, x.parts(n, 1, 100, 0), -1);
             BENCH.due("to " + n, x.parts(0, n, 100, 0), -1);
         }
         for (int thing = 0; thing < 3; thing++) {
             BENCH.due("like things", x.parts(thing, thing, 100, 0), -1);
         }
-        for (int n : odd(0, 10000000)) {
+        for (int n : Bench.odd(0, 10000000)) {
             BENCH.due("amount " + n, x.parts(0, 1, n, 0), -1);
         }
-        for (int n : odd(-1, 2)) {
+        for (int n : Bench.odd(-1, 2)) {
             BENCH.due("what " + n, x.parts(0, 1, 100, n), -1);
             BENCH.due("what " + n + ", where there are none", x.parts(0, 2, 100, n), -1);
         }
@@ -541,10 +537,10 @@ public final class AskEdgesTest {
 
     private static void ringAtItsBounds() {
         TickPools x = twoPools(5, 2, 2, 1, 391, 789);
-        for (int n : odd(-1, 2)) {
+        for (int n : Bench.odd(-1, 2)) {
             BENCH.due("thing " + n, x.ring(n, 0), -1);
         }
-        for (int n : odd(-1, 6)) {
+        for (int n : Bench.odd(-1, 6)) {
             BENCH.due("what " + n, x.ring(0, n), -1);
             BENCH.due("what " + n + ", where there is none", x.ring(1, n), -1);
         }

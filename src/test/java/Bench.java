@@ -2,6 +2,10 @@ import java.nio.charset.StandardCharsets;
 
 /** What the tests share: telling a text, and counting answers that are not due. */
 final class Bench {
+    /** A market of one pool at tick 20, with a fee of 10 and a cut of 20, and two people who have some of both things. */
+    static final String PLAIN = "market 2 2;pool 0 1 10 20 1 1 1"
+        + ";purse 0 0 100000;purse 0 1 100000;purse 1 0 50000;purse 1 1 50000";
+
     private final String name;
     private int asked;
     private int wrong;
@@ -60,6 +64,42 @@ final class Bench {
             throw new IllegalStateException("the test's own market is faulty: " + text);
         }
         return x;
+    }
+
+    /** That market with a stake of person 0, of 10000 between ticks 19 and 21. */
+    static TickPools plain() {
+        TickPools x = made(PLAIN);
+        x.add(0, 0, 19, 21, 0, 10000);
+        return x;
+    }
+
+    /** Numbers that are none of these: the one below them, the one above them, and the outermost ones. */
+    static int[] odd(int below, int above) {
+        return new int[] {below, above, Integer.MIN_VALUE, Integer.MAX_VALUE};
+    }
+
+    /** The text and as many blanks behind it as make it so long. */
+    static String padded(String text, int length) {
+        StringBuilder all = new StringBuilder(text);
+        while (all.length() < length) {
+            all.append(' ');
+        }
+        return all.toString();
+    }
+
+    /** What comes out, what is LEFT, the FEES, the ZONE, the TICKS CROSSED, as far as told, of a QUOTE in pool 0. */
+    void quoteInIs(TickPools x, int side, int amount, int end, int... due) {
+        for (int what = 0; what < due.length; what++) {
+            due("quoteIn " + side + " " + amount + " " + end + ", what " + what,
+                x.quoteIn(0, side, amount, end, what), due[what]);
+        }
+    }
+
+    /** What comes in, the FEES, the ZONE, the TICKS CROSSED, as far as told, of a QUOTE in pool 0. */
+    void quoteOutIs(TickPools x, int side, int amount, int... due) {
+        for (int what = 0; what < due.length; what++) {
+            due("quoteOut " + side + " " + amount + ", what " + what, x.quoteOut(0, side, amount, what), due[what]);
+        }
     }
 
     /** What market() and bundle() answer for a fault or a fail of this kind at this place. */

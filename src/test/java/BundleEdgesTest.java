@@ -1,8 +1,6 @@
 /** Promise 5, edge by edge: each bound of a bundle's text, each way in which a step can't be, wholly or not at all. */
 public final class BundleEdgesTest {
     private static final Bench BENCH = new Bench("BundleEdgesTest");
-    private static final String PLAIN = "market 2 2;pool 0 1 10 20 1 1 1"
-        + ";purse 0 0 100000;purse 0 1 100000;purse 1 0 50000;purse 1 1 50000";
     private static final String TWO_POOLS = "market 3 2;pool 0 1 10 20 1 1 1;pool 1 2 10 20 1 1 1"
         + ";purse 0 0 100000;purse 0 1 100000;purse 0 2 100000;purse 1 0 50000;purse 1 1 50000;purse 1 2 50000";
 
@@ -49,12 +47,6 @@ public final class BundleEdgesTest {
         BENCH.finish();
     }
 
-    private static TickPools plain() {
-        TickPools x = Bench.made(PLAIN);
-        x.add(0, 0, 19, 21, 0, 10000);
-        return x;
-    }
-
     private static TickPools twoPools() {
         TickPools x = Bench.made(TWO_POOLS);
         x.add(0, 0, 15, 25, 0, 10000);
@@ -72,19 +64,11 @@ public final class BundleEdgesTest {
     }
 
     private static void done(String text, int steps) {
-        answers(plain(), text, steps);
+        answers(Bench.plain(), text, steps);
     }
 
     private static void faulty(String text, int place, int kind) {
-        answers(plain(), text, Bench.fault(place, kind));
-    }
-
-    private static String padded(String text, int length) {
-        StringBuilder all = new StringBuilder(text);
-        while (all.length() < length) {
-            all.append(' ');
-        }
-        return all.toString();
+        answers(Bench.plain(), text, Bench.fault(place, kind));
     }
 
     private static String repeated(String step, int times) {
@@ -96,7 +80,7 @@ public final class BundleEdgesTest {
     }
 
     private static void withoutThatPerson() {
-        TickPools x = plain();
+        TickPools x = Bench.plain();
         String before = Bench.picture(x);
         Bench.tell(x, "in 0 0 5;zoo");
         int[] nobody = {2, -1, 4, Integer.MIN_VALUE, Integer.MAX_VALUE};
@@ -113,20 +97,20 @@ public final class BundleEdgesTest {
 
     private static void emptyText() {
         faulty("", 0, 0);
-        faulty(padded("", 400), 400, 0);
-        TickPools x = plain();
+        faulty(Bench.padded("", 400), 400, 0);
+        TickPools x = Bench.plain();
         BENCH.due("nothing fed", x.bundle(0), -3);
     }
 
     private static void textOfFourHundredBytes() {
-        done(padded("least 0 0", 400), 1);
-        done(padded("", 391) + "least 0 0", 1);
-        done(padded("times 1 [ least 0 0 ", 399) + "]", 2);
-        faulty(padded("least 0 0", 399) + ";", 400, 0);
-        faulty(padded("least 0 0", 399) + "]", 399, 0);
-        faulty(padded("times 1 [ least 0 0 ", 400), 400, 0);
-        answers(plain(), padded("least 0 0;", 392) + "in 9 0 0", Bench.fault(395, 1));
-        answers(plain(), padded("least 0 0;", 392) + "in 0 0 0", Bench.fault(392, 5));
+        done(Bench.padded("least 0 0", 400), 1);
+        done(Bench.padded("", 391) + "least 0 0", 1);
+        done(Bench.padded("times 1 [ least 0 0 ", 399) + "]", 2);
+        faulty(Bench.padded("least 0 0", 399) + ";", 400, 0);
+        faulty(Bench.padded("least 0 0", 399) + "]", 399, 0);
+        faulty(Bench.padded("times 1 [ least 0 0 ", 400), 400, 0);
+        answers(Bench.plain(), Bench.padded("least 0 0;", 392) + "in 9 0 0", Bench.fault(395, 1));
+        answers(Bench.plain(), Bench.padded("least 0 0;", 392) + "in 0 0 0", Bench.fault(392, 5));
     }
 
     private static void signsNextToDigitsAndLetters() {
@@ -311,7 +295,7 @@ public final class BundleEdgesTest {
         faulty("in 9 0 0;zoo", 3, 1);
         faulty("in 0 0 0;in 0 0", 15, 0);
         faulty("times 20[times 20[least 0 0]];in 0 0 0;in 7", 42, 1);
-        TickPools x = plain();
+        TickPools x = Bench.plain();
         x.passes(5);
         answers(x, "in 0 0 50;in 0 0 50]", Bench.fault(19, 0));
     }
@@ -338,7 +322,7 @@ public final class BundleEdgesTest {
         answers(poor, "in 0 0 all;in 0 0 all", Bench.fault(11, 5));
         answers(poor, "in 0 0 all", 1);
         // A pool that holds nothing, and a stake that is all of the other thing.
-        TickPools x = Bench.made(PLAIN);
+        TickPools x = Bench.made(Bench.PLAIN);
         answers(x, "out 0 0 all", Bench.fault(0, 5));
         answers(x, "lend 0 0 all [least 0 0]", Bench.fault(0, 5));
         x.add(0, 0, 20, 21, 0, 10000);
@@ -387,7 +371,7 @@ public final class BundleEdgesTest {
         done("in 0 0 50000", 1);
         faulty("in 0 0 50001", 0, 5);
         done("in 0 0 1", 1);
-        TickPools x = plain();
+        TickPools x = Bench.plain();
         x.passes(2);
         // Up to tick 21 it takes 493, and no more above that.
         answers(x, "in 0 1 9999;in 0 1 49508", Bench.fault(12, 5));
@@ -439,7 +423,7 @@ public final class BundleEdgesTest {
         answers(x, "add 0 20 30 259", 1);
         BENCH.due("purse", x.purse(1, 0), 0);
         answers(x, "add 0 20 30 1", Bench.fault(0, 5));
-        x = Bench.made(PLAIN);
+        x = Bench.made(Bench.PLAIN);
         for (int i = 0; i < 11; i++) {
             x.add(0, 0, i, 40, 1, 1);
         }
@@ -455,7 +439,7 @@ public final class BundleEdgesTest {
     }
 
     private static void dropOfOwnStakesAlone() {
-        TickPools x = plain();
+        TickPools x = Bench.plain();
         answers(x, "drop 0 19 21", Bench.fault(0, 5));
         x.add(1, 0, 19, 21, 1, 5);
         x.add(1, 0, 19, 21, 2, 5);
@@ -468,7 +452,7 @@ public final class BundleEdgesTest {
         answers(x, "drop 0 19 21", 1);
         BENCH.due("the others stay", x.count(3), 5);
         // Wholly, and what is owed with it.
-        x = Bench.made(PLAIN);
+        x = Bench.made(Bench.PLAIN);
         x.add(1, 0, 19, 21, 0, 10000);
         x.in(0, 0, 0, 494, 0);
         int had = x.purse(1, 0);
@@ -494,7 +478,7 @@ public final class BundleEdgesTest {
         done("lend 0 0 all [least 0 50466]", 2);
         faulty("lend 0 0 all [least 0 50467]", 14, 5);
         // What the house and the stakes have of it can be lent, too.
-        TickPools x = plain();
+        TickPools x = Bench.plain();
         x.in(1, 0, 0, 100, 0);
         x.in(1, 0, 0, 300, 0);
         BENCH.due("it holds", x.pool(0, 8), 866);
@@ -503,7 +487,7 @@ public final class BundleEdgesTest {
     }
 
     private static void lendWithoutLiquidity() {
-        TickPools x = Bench.made(PLAIN);
+        TickPools x = Bench.made(Bench.PLAIN);
         answers(x, "lend 0 0 1 [least 0 0]", Bench.fault(0, 5));
         x.add(0, 0, 21, 25, 0, 5000);
         x.add(0, 0, 10, 20, 0, 5000);
@@ -518,7 +502,7 @@ public final class BundleEdgesTest {
         int[] amounts = {1, 99, 100, 101, 200, 201, 466};
         int[] fees = {1, 1, 1, 2, 2, 3, 5};
         for (int i = 0; i < amounts.length; i++) {
-            TickPools x = plain();
+            TickPools x = Bench.plain();
             answers(x, "lend 0 0 " + amounts[i] + " [least 0 0]", 2);
             BENCH.due("fee of " + amounts[i], 50000 - x.purse(1, 0), fees[i]);
             BENCH.due("the pool has it", x.pool(0, 8), 466 + fees[i]);
@@ -546,7 +530,7 @@ public final class BundleEdgesTest {
             // Of another pool all that can be.
             answers(twoPools(), "lend 1 0 5 [" + step + "]", step.startsWith("lend") ? 3 : 2);
         }
-        TickPools x = plain();
+        TickPools x = Bench.plain();
         x.add(1, 0, 19, 21, 0, 50);
         answers(x, "lend 0 0 5 [drop 0 19 21]", Bench.fault(12, 5));
         answers(x, "lend 0 0 5 [least 0 0];drop 0 19 21", 3);
@@ -562,7 +546,7 @@ public final class BundleEdgesTest {
     }
 
     private static void locksOfOneBundleAlone() {
-        TickPools x = plain();
+        TickPools x = Bench.plain();
         answers(x, "lend 0 0 5 [least 0 9999999]", Bench.fault(12, 5));
         answers(x, "in 0 0 5;lend 0 0 5 [least 0 0]", 3);
         BENCH.due("by hand, too", x.in(1, 0, 0, 5, 0), 3);
@@ -588,9 +572,9 @@ public final class BundleEdgesTest {
     private static void gotAtItsBounds() {
         done("in 0 0 100;in 0 1 got;least 0 49997", 3);
         // What came out by out is what was told; what came out last counts.
-        TickPools x = plain();
+        TickPools x = Bench.plain();
         answers(x, "in 0 0 100;out 0 1 50;in 0 0 got", 3);
-        TickPools y = plain();
+        TickPools y = Bench.plain();
         y.in(1, 0, 0, 100, 0);
         y.out(1, 0, 1, 50);
         y.in(1, 0, 0, 50, 0);
@@ -606,7 +590,7 @@ public final class BundleEdgesTest {
     }
 
     private static void gotOfOneBundleAlone() {
-        TickPools x = plain();
+        TickPools x = Bench.plain();
         answers(x, "in 0 0 100", 1);
         answers(x, "in 0 1 got", Bench.fault(0, 5));
         x.in(1, 0, 0, 100, 0);
@@ -627,9 +611,9 @@ public final class BundleEdgesTest {
         answers(poor, "times 3 [in 0 0 20]", Bench.fault(9, 5));
         answers(poor, "times 5[in 0 0 20;least 0 20]", Bench.fault(18, 5));
         answers(poor, "times 2 [in 0 0 20]", 3);
-        TickPools x = plain();
+        TickPools x = Bench.plain();
         answers(x, "times 20 [in 0 0 5]", 21);
-        TickPools y = plain();
+        TickPools y = Bench.plain();
         for (int i = 0; i < 20; i++) {
             y.in(1, 0, 0, 5, 0);
         }
@@ -669,7 +653,7 @@ public final class BundleEdgesTest {
     }
 
     private static void whollyOrNotAtAll() {
-        TickPools x = plain();
+        TickPools x = Bench.plain();
         x.add(1, 0, 20, 22, 1, 5000);
         x.add(1, 0, 18, 20, 2, 5000);
         x.passes(5);
@@ -682,7 +666,7 @@ public final class BundleEdgesTest {
         BENCH.holds("stakes, ticks crossed, marks as before", before.equals(Bench.picture(x)));
         BENCH.due("mean", x.mean(0, 10), known);
         BENCH.due("done wholly", Bench.bundle(x, 1, "in 0 1 3000;in 0 0 5000;add 0 10 30 9;out 0 1 5"), 4);
-        TickPools y = plain();
+        TickPools y = Bench.plain();
         y.add(1, 0, 20, 22, 1, 5000);
         y.add(1, 0, 18, 20, 2, 5000);
         y.passes(5);
@@ -750,7 +734,7 @@ public final class BundleEdgesTest {
     }
 
     private static void swapsGoToTheirEnds() {
-        TickPools x = plain();
+        TickPools x = Bench.plain();
         answers(x, "in 0 0 9999", 1);
         BENCH.due("down to 0", x.pool(0, 6), 38554);
         BENCH.due("zone", x.pool(0, 5), 0);

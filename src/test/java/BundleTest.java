@@ -1,8 +1,6 @@
 /** Promise 5: bundles, their faults, their fails, and that a bundle is done wholly or not at all. */
 public final class BundleTest {
     private static final Bench BENCH = new Bench("BundleTest");
-    private static final String PLAIN = "market 2 2;pool 0 1 10 20 1 1 1"
-        + ";purse 0 0 100000;purse 0 1 100000;purse 1 0 50000;purse 1 1 50000";
 
     public static void main(String[] args) {
         withoutThePerson();
@@ -26,18 +24,12 @@ public final class BundleTest {
         BENCH.finish();
     }
 
-    private static TickPools plain() {
-        TickPools x = Bench.made(PLAIN);
-        x.add(0, 0, 19, 21, 0, 10000);
-        return x;
-    }
-
     private static void answers(String text, int due) {
-        TickPools x = plain();
+        TickPools x = Bench.plain();
         BENCH.due("bundle of '" + text + "'", Bench.bundle(x, 1, text), due);
         BENCH.due("the tape is empty behind '" + text + "'", x.count(6), 0);
         if (due < 0) {
-            BENCH.holds("all stays behind '" + text + "'", Bench.picture(plain()).equals(Bench.picture(x)));
+            BENCH.holds("all stays behind '" + text + "'", Bench.picture(Bench.plain()).equals(Bench.picture(x)));
         }
     }
 
@@ -46,7 +38,7 @@ public final class BundleTest {
     }
 
     private static void withoutThePerson() {
-        TickPools x = plain();
+        TickPools x = Bench.plain();
         Bench.tell(x, "least 0 0");
         BENCH.due("person 2", x.bundle(2), -1);
         BENCH.due("person -1", x.bundle(-1), -1);
@@ -141,14 +133,14 @@ public final class BundleTest {
     }
 
     private static void swapsAsByHand() {
-        TickPools x = plain();
-        TickPools y = plain();
+        TickPools x = Bench.plain();
+        TickPools y = Bench.plain();
         BENCH.due("bundle", Bench.bundle(x, 1, "in 0 0 100;out 0 1 50; in 0 1 2000"), 3);
         y.in(1, 0, 0, 100, 0);
         y.out(1, 0, 1, 50);
         y.in(1, 0, 1, 2000, 40);
         BENCH.holds("as by hand", Bench.picture(x).equals(Bench.picture(y)));
-        x = plain();
+        x = Bench.plain();
         x.passes(4);
         Bench.bundle(x, 1, "in 0 0 494");
         x.passes(4);
@@ -157,11 +149,11 @@ public final class BundleTest {
     }
 
     private static void got() {
-        TickPools x = plain();
+        TickPools x = Bench.plain();
         // 98 come out, and go back.
         BENCH.due("bundle", Bench.bundle(x, 1, "in 0 0 100;in 0 1 got"), 2);
         BENCH.due("purse", x.purse(1, 1), 50000);
-        x = plain();
+        x = Bench.plain();
         BENCH.due("bundle", Bench.bundle(x, 1, "out 0 0 100;in 0 1 got"), 2);
         BENCH.due("purse", x.purse(1, 1), 50000);
         faulty("in 0 0 got", 0, 5);
@@ -186,7 +178,7 @@ public final class BundleTest {
     }
 
     private static void addAndDrop() {
-        TickPools x = plain();
+        TickPools x = Bench.plain();
         BENCH.due("add", Bench.bundle(x, 1, "add 0 19 21 5000; add 0 19 21 5000"), 2);
         BENCH.due("stakes", x.count(3), 2);
         BENCH.due("person", x.stake(1, 0), 1);
@@ -245,7 +237,7 @@ public final class BundleTest {
     }
 
     private static void lending() {
-        TickPools x = plain();
+        TickPools x = Bench.plain();
         // Fee of 300: 3; the house has 0 of it; 3 * 1048576 / 10000 is 314, and 2.99 of that is owed.
         BENCH.due("lend", Bench.bundle(x, 1, "lend 0 1 300 [least 1 50300]"), 2);
         BENCH.due("purse", x.purse(1, 1), 50000 - 3);
@@ -307,8 +299,8 @@ public final class BundleTest {
         answers("times 0 [in 0 0 0];least 0 0", 2);
         answers("times 20 [least 0 0]", 21);
         answers("times 2 [times 3 [least 0 0]; least 1 0]", 1 + 2 * (1 + 3 + 1));
-        TickPools x = plain();
-        TickPools y = plain();
+        TickPools x = Bench.plain();
+        TickPools y = Bench.plain();
         Bench.bundle(x, 1, "times 3 [in 0 0 10]");
         for (int i = 0; i < 3; i++) {
             y.in(1, 0, 0, 10, 0);
@@ -327,7 +319,7 @@ public final class BundleTest {
     }
 
     private static void nothingRemainsOfAFail() {
-        TickPools x = plain();
+        TickPools x = Bench.plain();
         x.add(1, 0, 18, 20, 1, 777);
         x.add(0, 0, 18, 22, 2, 7770);
         x.passes(7);

@@ -4,7 +4,6 @@ import java.math.BigInteger;
 public final class StakeEdgesTest {
     private static final Bench BENCH = new Bench("StakeEdgesTest");
     private static final String PURSES = ";purse 0 0 100000;purse 0 1 100000;purse 1 0 50000;purse 1 1 50000";
-    private static final String PLAIN = "market 2 2;pool 0 1 10 20 1 1 1" + PURSES;
     // Without a cut: the fee of 1 of a swap of 100 is all for the stakes.
     private static final String UNCUT = "market 2 2;pool 0 1 10 0 1 1 1" + PURSES;
 
@@ -38,16 +37,6 @@ public final class StakeEdgesTest {
         BENCH.finish();
     }
 
-    private static TickPools plain() {
-        TickPools x = Bench.made(PLAIN);
-        x.add(0, 0, 19, 21, 0, 10000);
-        return x;
-    }
-
-    private static int[] odd(int below, int above) {
-        return new int[] {below, above, Integer.MIN_VALUE, Integer.MAX_VALUE};
-    }
-
     // Promise 6.
 
     private static void ticksAtTheirBounds() {
@@ -59,7 +48,7 @@ public final class StakeEdgesTest {
         BENCH.due("root of 21", x.root(21), 104880);
         BENCH.due("root of 39", x.root(39), 247303);
         BENCH.due("root of 40", x.root(40), 259374);
-        for (int n : odd(-1, 41)) {
+        for (int n : Bench.odd(-1, 41)) {
             BENCH.due("root of " + n, x.root(n), -1);
         }
     }
@@ -118,7 +107,7 @@ public final class StakeEdgesTest {
     // Promise 9.
 
     private static void zonesOfDepth() {
-        TickPools x = plain();
+        TickPools x = Bench.plain();
         x.add(0, 0, 0, 40, 0, 7);
         x.add(0, 0, 0, 1, 0, 100);
         x.add(0, 0, 39, 40, 0, 500);
@@ -126,13 +115,13 @@ public final class StakeEdgesTest {
         for (int[] d : due) {
             BENCH.due("depth of zone " + d[0], x.depth(0, d[0]), d[1]);
         }
-        for (int n : odd(-1, 40)) {
+        for (int n : Bench.odd(-1, 40)) {
             BENCH.due("depth of zone " + n, x.depth(0, n), -1);
         }
-        for (int n : odd(-1, 1)) {
+        for (int n : Bench.odd(-1, 1)) {
             BENCH.due("depth of pool " + n, x.depth(n, 20), -1);
         }
-        BENCH.due("no stake, no depth", Bench.made(PLAIN).depth(0, 20), 0);
+        BENCH.due("no stake, no depth", Bench.made(Bench.PLAIN).depth(0, 20), 0);
     }
 
     // Promise 10.
@@ -227,19 +216,19 @@ public final class StakeEdgesTest {
     }
 
     private static void overIsOfEachThing() {
-        TickPools x = Bench.made(PLAIN);
+        TickPools x = Bench.made(Bench.PLAIN);
         x.add(0, 0, 21, 22, 0, 10000);
         BENCH.due("of the first", x.pool(0, 12), 1);
         BENCH.due("of the second", x.pool(0, 13), 0);
-        x = Bench.made(PLAIN);
+        x = Bench.made(Bench.PLAIN);
         x.add(0, 0, 18, 19, 0, 10000);
         BENCH.due("of the first", x.pool(0, 12), 0);
         BENCH.due("of the second", x.pool(0, 13), 1);
-        BENCH.due("of a pool that holds nothing", Bench.made(PLAIN).pool(0, 12), 0);
+        BENCH.due("of a pool that holds nothing", Bench.made(Bench.PLAIN).pool(0, 12), 0);
     }
 
     private static void overWithHouseAndOwed() {
-        TickPools x = plain();
+        TickPools x = Bench.plain();
         x.in(1, 0, 0, 494, 0);
         // 466 and 494, less 1 of the house, 953 that lie and 3 owed; of the second 466 less 465.
         BENCH.due("held", x.pool(0, 8), 960);
@@ -254,7 +243,7 @@ public final class StakeEdgesTest {
         x.take(0, 10000);
         BENCH.due("over without stakes", x.pool(0, 12), 3);
         BENCH.due("held without stakes", x.pool(0, 8), 3);
-        x = plain();
+        x = Bench.plain();
         x.in(1, 0, 1, 493, 40);
         BENCH.due("over", x.pool(0, 13), 466 + 493 - 1 - x.stake(0, 7) - 3);
         BENCH.due("owed", x.stake(0, 9), 3);
@@ -287,10 +276,10 @@ public final class StakeEdgesTest {
     private static void addOfWhatDoesNotFit() {
         TickPools x = Bench.made("market 2 2;pool 0 1 10 20 10 1 1" + PURSES);
         String before = Bench.picture(x);
-        for (int n : odd(-1, 2)) {
+        for (int n : Bench.odd(-1, 2)) {
             BENCH.due("person " + n, x.add(n, 0, 10, 30, 0, 5), -1);
         }
-        for (int n : odd(-1, 1)) {
+        for (int n : Bench.odd(-1, 1)) {
             BENCH.due("pool " + n, x.add(0, n, 10, 30, 0, 5), -1);
         }
         int[] lows = {-10, -1, 1, 5, 9, 11, 30, 40, 50, Integer.MIN_VALUE, Integer.MAX_VALUE};
@@ -301,10 +290,10 @@ public final class StakeEdgesTest {
         for (int high : highs) {
             BENCH.due("high " + high, x.add(0, 0, 10, high, 0, 5), -1);
         }
-        for (int n : odd(-1, 3)) {
+        for (int n : Bench.odd(-1, 3)) {
             BENCH.due("auto " + n, x.add(0, 0, 10, 30, n, 5), -1);
         }
-        for (int n : odd(0, 100000)) {
+        for (int n : Bench.odd(0, 100000)) {
             BENCH.due("liquidity " + n, x.add(0, 0, 10, 30, 0, n), -1);
         }
         BENCH.holds("nothing happened", before.equals(Bench.picture(x)));
@@ -335,7 +324,7 @@ public final class StakeEdgesTest {
     }
 
     private static void addToTheSameFive() {
-        TickPools x = Bench.made(PLAIN);
+        TickPools x = Bench.made(Bench.PLAIN);
         BENCH.due("a new one", x.add(0, 0, 19, 21, 0, 1), 0);
         int[][] others = {{1, 19, 21, 0}, {0, 18, 21, 0}, {0, 19, 22, 0}, {0, 19, 21, 1}, {0, 19, 21, 2}};
         for (int i = 0; i < others.length; i++) {
@@ -454,12 +443,12 @@ public final class StakeEdgesTest {
     // Promise 12.
 
     private static void takeAtItsBounds() {
-        TickPools x = plain();
+        TickPools x = Bench.plain();
         String before = Bench.picture(x);
-        for (int n : odd(0, 10001)) {
+        for (int n : Bench.odd(0, 10001)) {
             BENCH.due("take " + n, x.take(0, n), -1);
         }
-        for (int n : odd(-1, 1)) {
+        for (int n : Bench.odd(-1, 1)) {
             BENCH.due("take of stake " + n, x.take(n, 1), -1);
         }
         BENCH.holds("nothing happened", before.equals(Bench.picture(x)));
@@ -475,7 +464,7 @@ public final class StakeEdgesTest {
         BENCH.due("dust", x.pool(0, 8), 1);
         BENCH.due("dust", x.pool(0, 9), 1);
         // A part leaves what is owed; all takes it, too.
-        x = plain();
+        x = Bench.plain();
         x.in(1, 0, 0, 494, 0);
         int had = x.purse(0, 0);
         x.take(0, 9999);
@@ -486,7 +475,7 @@ public final class StakeEdgesTest {
 
     private static void takenStakeLeavesTheOthers() {
         for (int gone = 0; gone < 4; gone++) {
-            TickPools x = Bench.made(PLAIN);
+            TickPools x = Bench.made(Bench.PLAIN);
             for (int i = 0; i < 4; i++) {
                 x.add(0, 0, 10 + i, 30, 0, 100 + i);
             }
@@ -511,7 +500,7 @@ public final class StakeEdgesTest {
 
     private static void newStakeOwesNothingOfTheOld() {
         for (int last = 0; last < 2; last++) {
-            TickPools x = plain();
+            TickPools x = Bench.plain();
             x.add(0, 0, 0, 1, 0, 1);
             x.in(1, 0, 0, 494, 0);
             x.in(1, 0, 1, 9999, 21);
@@ -529,7 +518,7 @@ public final class StakeEdgesTest {
             BENCH.due("liquidity", x.stake(at, 5), 55);
         }
         // Of one that could not be added nothing stays, either.
-        TickPools x = plain();
+        TickPools x = Bench.plain();
         BENCH.due("too poor", x.add(1, 0, 15, 16, 2, 99999) >= 0 ? 0 : -1, 0);
         BENCH.due("far too poor", x.add(1, 0, 0, 20, 2, 99999), -1);
         BENCH.due("one and no more", x.count(3), 2);
@@ -538,8 +527,8 @@ public final class StakeEdgesTest {
     // Promise 13.
 
     private static void payAtItsBounds() {
-        TickPools x = plain();
-        for (int n : odd(-1, 1)) {
+        TickPools x = Bench.plain();
+        for (int n : Bench.odd(-1, 1)) {
             BENCH.due("pay of stake " + n, x.pay(n), -1);
         }
         BENCH.due("nothing is owed", x.pay(0), 0);
@@ -563,8 +552,8 @@ public final class StakeEdgesTest {
     // Promise 14.
 
     private static void levyAtItsBounds() {
-        TickPools x = plain();
-        for (int n : odd(-1, 1)) {
+        TickPools x = Bench.plain();
+        for (int n : Bench.odd(-1, 1)) {
             BENCH.due("levy of pool " + n, x.levy(n), -1);
         }
         BENCH.due("nothing yet", x.levy(0), 0);
@@ -604,7 +593,7 @@ public final class StakeEdgesTest {
         BENCH.due("of thing 1", x.total(1), 9999999);
         BENCH.due("of thing 2", x.total(2), 5007);
         BENCH.due("of a thing that nobody has", x.total(3), 0);
-        for (int n : odd(-1, 4)) {
+        for (int n : Bench.odd(-1, 4)) {
             BENCH.due("of thing " + n, x.total(n), -1);
         }
         x = Bench.made("market 2 4;purse 0 0 9999999;purse 1 0 9999999;purse 2 0 9999999;purse 3 0 9999999");
@@ -612,22 +601,22 @@ public final class StakeEdgesTest {
     }
 
     private static void countsAtTheirBounds() {
-        TickPools x = plain();
+        TickPools x = Bench.plain();
         int[] due = {2, 2, 1, 1, 0, 0, 0};
         for (int what = 0; what < due.length; what++) {
             BENCH.due("count " + what, x.count(what), due[what]);
         }
-        for (int n : odd(-1, 7)) {
+        for (int n : Bench.odd(-1, 7)) {
             BENCH.due("count " + n, x.count(n), -1);
             BENCH.due("count " + n + " without a market", new TickPools().count(n), -1);
         }
-        for (int n : odd(-1, 14)) {
+        for (int n : Bench.odd(-1, 14)) {
             BENCH.due("pool, what " + n, x.pool(0, n), -1);
         }
-        for (int n : odd(-1, 11)) {
+        for (int n : Bench.odd(-1, 11)) {
             BENCH.due("stake, what " + n, x.stake(0, n), -1);
         }
-        for (int n : odd(-1, 1)) {
+        for (int n : Bench.odd(-1, 1)) {
             BENCH.due("pool " + n, x.pool(n, 0), -1);
             BENCH.due("stake " + n, x.stake(n, 0), -1);
         }
@@ -641,14 +630,14 @@ public final class StakeEdgesTest {
         BENCH.due("purse", x.purse(0, 1), 2);
         BENCH.due("purse", x.purse(1, 0), 3);
         BENCH.due("purse", x.purse(1, 1), 9999999);
-        for (int n : odd(-1, 2)) {
+        for (int n : Bench.odd(-1, 2)) {
             BENCH.due("purse of person " + n, x.purse(n, 1), -1);
             BENCH.due("purse of thing " + n, x.purse(1, n), -1);
         }
     }
 
     private static void newMarketBeginsAnew() {
-        TickPools x = plain();
+        TickPools x = Bench.plain();
         x.passes(3);
         x.in(1, 0, 0, 494, 0);
         x.passes(3);

@@ -1,8 +1,6 @@
 /** Promises 6 to 14 and 26, 27: what there is, and what people do with stakes. */
 public final class StakeTest {
     private static final Bench BENCH = new Bench("StakeTest");
-    private static final String PLAIN = "market 2 2;pool 0 1 10 20 1 1 1"
-        + ";purse 0 0 100000;purse 0 1 100000;purse 1 0 50000;purse 1 1 50000";
 
     public static void main(String[] args) {
         roots();
@@ -62,7 +60,7 @@ public final class StakeTest {
     }
 
     private static void wrongQuestions() {
-        TickPools x = Bench.made(PLAIN);
+        TickPools x = Bench.made(Bench.PLAIN);
         x.add(0, 0, 19, 21, 0, 10000);
         int[] odd = {-1, Integer.MIN_VALUE, Integer.MAX_VALUE};
         for (int n : odd) {
@@ -93,7 +91,7 @@ public final class StakeTest {
     }
 
     private static void adding() {
-        TickPools x = Bench.made(PLAIN);
+        TickPools x = Bench.made(Bench.PLAIN);
         // FIRST: 10^9 * 4880 / (100000 * 104880) = 465.29; SECOND: 10000 * 4654 / 100000 = 465.4.
         BENCH.due("add", x.add(0, 0, 19, 21, 0, 10000), 0);
         BENCH.due("purse of the first", x.purse(0, 0), 100000 - 466);
@@ -178,7 +176,7 @@ public final class StakeTest {
     }
 
     private static void thirteenStakes() {
-        TickPools x = Bench.made(PLAIN);
+        TickPools x = Bench.made(Bench.PLAIN);
         for (int i = 0; i < 12; i++) {
             BENCH.due("stake " + i, x.add(0, 0, i, 40, 0, 1), i);
         }
@@ -191,7 +189,7 @@ public final class StakeTest {
     }
 
     private static void takingParts() {
-        TickPools x = Bench.made(PLAIN);
+        TickPools x = Bench.made(Bench.PLAIN);
         x.add(0, 0, 19, 21, 0, 10000);
         String before = Bench.picture(x);
         BENCH.due("none", x.take(0, 0), -1);
@@ -214,7 +212,7 @@ public final class StakeTest {
     }
 
     private static void takingAll() {
-        TickPools x = Bench.made(PLAIN);
+        TickPools x = Bench.made(Bench.PLAIN);
         x.add(0, 0, 19, 21, 0, 10000);
         x.add(1, 0, 30, 31, 0, 5);
         x.in(1, 0, 0, 494, 0);
@@ -230,7 +228,7 @@ public final class StakeTest {
     }
 
     private static void paying() {
-        TickPools x = Bench.made(PLAIN);
+        TickPools x = Bench.made(Bench.PLAIN);
         x.add(0, 0, 19, 21, 0, 10000);
         BENCH.due("nothing", x.pay(0), 0);
         x.in(1, 0, 0, 494, 0);
@@ -251,7 +249,7 @@ public final class StakeTest {
     }
 
     private static void levying() {
-        TickPools x = Bench.made(PLAIN);
+        TickPools x = Bench.made(Bench.PLAIN);
         x.add(1, 0, 19, 21, 0, 10000);
         x.in(1, 0, 0, 494, 0);
         x.in(1, 0, 1, 9999, 21);
@@ -267,7 +265,7 @@ public final class StakeTest {
     }
 
     private static void dustStaysOver() {
-        TickPools x = Bench.made(PLAIN);
+        TickPools x = Bench.made(Bench.PLAIN);
         for (int i = 0; i < 10; i++) {
             x.add(0, 0, 19, 21, 0, 1);
         }

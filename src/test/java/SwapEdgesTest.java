@@ -2,7 +2,6 @@
 public final class SwapEdgesTest {
     private static final Bench BENCH = new Bench("SwapEdgesTest");
     private static final String PURSES = ";purse 0 0 100000;purse 0 1 100000;purse 1 0 50000;purse 1 1 50000";
-    private static final String PLAIN = "market 2 2;pool 0 1 10 20 1 1 1" + PURSES;
 
     public static void main(String[] args) {
         inRefused();
@@ -43,30 +42,6 @@ public final class SwapEdgesTest {
         BENCH.finish();
     }
 
-    private static TickPools plain() {
-        TickPools x = Bench.made(PLAIN);
-        x.add(0, 0, 19, 21, 0, 10000);
-        return x;
-    }
-
-    private static int[] odd(int below, int above) {
-        return new int[] {below, above, Integer.MIN_VALUE, Integer.MAX_VALUE};
-    }
-
-    private static void quoteInIs(TickPools x, int side, int amount, int end, int... due) {
-        for (int what = 0; what < due.length; what++) {
-            BENCH.due("quoteIn " + side + " " + amount + " " + end + ", what " + what,
-                x.quoteIn(0, side, amount, end, what), due[what]);
-        }
-    }
-
-    private static void quoteOutIs(TickPools x, int side, int amount, int... due) {
-        for (int what = 0; what < due.length; what++) {
-            BENCH.due("quoteOut " + side + " " + amount + ", what " + what,
-                x.quoteOut(0, side, amount, what), due[what]);
-        }
-    }
-
     private static void standsAt(TickPools x, int root, int zone) {
         BENCH.due("ROOT", x.pool(0, 6), root);
         BENCH.due("ZONE", x.pool(0, 5), zone);
@@ -75,21 +50,21 @@ public final class SwapEdgesTest {
     // Promise 15.
 
     private static void inRefused() {
-        TickPools x = plain();
+        TickPools x = Bench.plain();
         x.passes(2);
         String before = Bench.picture(x);
-        for (int n : odd(-1, 2)) {
+        for (int n : Bench.odd(-1, 2)) {
             BENCH.due("in of person " + n, x.in(n, 0, 0, 5, 0), -1);
             BENCH.due("in at side " + n, x.in(1, 0, n, 5, 0), -1);
         }
-        for (int n : odd(-1, 1)) {
+        for (int n : Bench.odd(-1, 1)) {
             BENCH.due("in of pool " + n, x.in(1, n, 0, 5, 0), -1);
         }
-        for (int n : odd(0, 50001)) {
+        for (int n : Bench.odd(0, 50001)) {
             BENCH.due("in of amount " + n, x.in(1, 0, 0, n, 0), -1);
             BENCH.due("in of amount " + n, x.in(1, 0, 1, n, 40), -1);
         }
-        for (int n : odd(-1, 41)) {
+        for (int n : Bench.odd(-1, 41)) {
             BENCH.due("in up to " + n, x.in(1, 0, 0, 5, n), -1);
             BENCH.due("in up to " + n, x.in(1, 0, 1, 5, n), -1);
         }
@@ -111,15 +86,15 @@ public final class SwapEdgesTest {
     }
 
     private static void endsAroundTheZone() {
-        TickPools x = plain();
+        TickPools x = Bench.plain();
         // ZONE is 20, and the root that of tick 20.
-        quoteInIs(x, 0, 700, 21, 0, 700, 0, 20, 0);
-        quoteInIs(x, 0, 700, 40, 0, 700, 0, 20, 0);
-        quoteInIs(x, 0, 700, 20, 0, 700, 0, 20, 0);
-        quoteInIs(x, 0, 700, 19, 465, 206, 5, 19, 0);
-        quoteInIs(x, 1, 700, 20, 0, 700, 0, 20, 0);
-        quoteInIs(x, 1, 700, 0, 0, 700, 0, 20, 0);
-        quoteInIs(x, 1, 700, 21, 465, 207, 5, 20, 0);
+        BENCH.quoteInIs(x, 0, 700, 21, 0, 700, 0, 20, 0);
+        BENCH.quoteInIs(x, 0, 700, 40, 0, 700, 0, 20, 0);
+        BENCH.quoteInIs(x, 0, 700, 20, 0, 700, 0, 20, 0);
+        BENCH.quoteInIs(x, 0, 700, 19, 465, 206, 5, 19, 0);
+        BENCH.quoteInIs(x, 1, 700, 20, 0, 700, 0, 20, 0);
+        BENCH.quoteInIs(x, 1, 700, 0, 0, 700, 0, 20, 0);
+        BENCH.quoteInIs(x, 1, 700, 21, 465, 207, 5, 20, 0);
         String before = Bench.picture(x);
         BENCH.due("no step down", x.in(1, 0, 0, 700, 21), 0);
         BENCH.due("no step up", x.in(1, 0, 1, 700, 20), 0);
@@ -127,20 +102,20 @@ public final class SwapEdgesTest {
         BENCH.due("up to 21", x.in(1, 0, 1, 700, 21), 465);
         standsAt(x, 104880, 20);
         // At its end: again that is a step of nothing, beyond it there is more.
-        quoteInIs(x, 1, 9, 21, 0, 9, 0, 20, 0);
-        quoteInIs(x, 1, 9, 22, 0, 9, 0, 21, 1);
+        BENCH.quoteInIs(x, 1, 9, 21, 0, 9, 0, 20, 0);
+        BENCH.quoteInIs(x, 1, 9, 22, 0, 9, 0, 21, 1);
         // All at once: SECOND is 488 wholly.
         BENCH.due("down to 20", x.in(1, 0, 0, 700, 20), 488);
         standsAt(x, 100000, 20);
     }
 
     private static void endAsNearAsAStake() {
-        TickPools x = plain();
+        TickPools x = Bench.plain();
         // Tick 19 is the END and the LOW of the stake: it is not crossed.
-        quoteInIs(x, 0, 9999, 19, 465, 9999 - 494, 5, 19, 0);
-        quoteInIs(x, 0, 9999, 18, 465, 9999 - 494, 5, 18, 1);
-        quoteInIs(x, 1, 9999, 21, 465, 9999 - 493, 5, 20, 0);
-        quoteInIs(x, 1, 9999, 22, 465, 9999 - 493, 5, 21, 1);
+        BENCH.quoteInIs(x, 0, 9999, 19, 465, 9999 - 494, 5, 19, 0);
+        BENCH.quoteInIs(x, 0, 9999, 18, 465, 9999 - 494, 5, 18, 1);
+        BENCH.quoteInIs(x, 1, 9999, 21, 465, 9999 - 493, 5, 20, 0);
+        BENCH.quoteInIs(x, 1, 9999, 22, 465, 9999 - 493, 5, 21, 1);
         BENCH.due("down", x.in(1, 0, 0, 9999, 19), 465);
         standsAt(x, 95346, 19);
         BENCH.due("still IN", x.stake(0, 10), 1);
@@ -152,35 +127,35 @@ public final class SwapEdgesTest {
     }
 
     private static void endNearerThanAStake() {
-        TickPools x = Bench.made(PLAIN);
+        TickPools x = Bench.made(Bench.PLAIN);
         x.add(0, 0, 15, 25, 0, 10000);
         // FIRST 488.1 and SECOND 465.4 down to tick 19, with a fee of 4.9.
-        quoteInIs(x, 0, 9999, 19, 465, 9999 - 494, 5, 19, 0);
+        BENCH.quoteInIs(x, 0, 9999, 19, 465, 9999 - 494, 5, 19, 0);
         BENCH.due("down", x.in(1, 0, 0, 9999, 19), 465);
         standsAt(x, 95346, 19);
         BENCH.due("not crossed", x.count(5), 0);
         // Down again, where no stake begins or ends, from the root of its own tick.
-        quoteInIs(x, 0, 9999, 19, 0, 9999, 0, 19, 0);
+        BENCH.quoteInIs(x, 0, 9999, 19, 0, 9999, 0, 19, 0);
         // 10^9 * 4437 / (90909 * 95346) = 511.9; fee 5.1; SECOND 443.7.
-        quoteInIs(x, 0, 9999, 18, 443, 9999 - 518, 6, 18, 0);
+        BENCH.quoteInIs(x, 0, 9999, 18, 443, 9999 - 518, 6, 18, 0);
     }
 
     private static void wantedJustThere() {
-        TickPools x = plain();
+        TickPools x = Bench.plain();
         // 489 and a fee of 5; 493 are one too few, though n is 488 and no more comes out by the last one.
-        quoteInIs(x, 0, 493, 0, 465, 0, 5, 19, 0);
-        quoteInIs(x, 0, 494, 0, 465, 0, 5, 18, 1);
-        quoteInIs(x, 0, 495, 0, 465, 1, 5, 0, 1);
-        quoteInIs(x, 1, 492, 40, 464, 0, 5, 20, 0);
-        quoteInIs(x, 1, 493, 40, 465, 0, 5, 21, 1);
-        quoteInIs(x, 1, 494, 40, 465, 1, 5, 39, 1);
+        BENCH.quoteInIs(x, 0, 493, 0, 465, 0, 5, 19, 0);
+        BENCH.quoteInIs(x, 0, 494, 0, 465, 0, 5, 18, 1);
+        BENCH.quoteInIs(x, 0, 495, 0, 465, 1, 5, 0, 1);
+        BENCH.quoteInIs(x, 1, 492, 40, 464, 0, 5, 20, 0);
+        BENCH.quoteInIs(x, 1, 493, 40, 465, 0, 5, 21, 1);
+        BENCH.quoteInIs(x, 1, 494, 40, 465, 1, 5, 39, 1);
         // Without fees: 489 and 488.
         x = Bench.made("market 2 2;pool 0 1 0 0 1 1 1" + PURSES);
         x.add(0, 0, 19, 21, 0, 10000);
-        quoteInIs(x, 0, 488, 0, 465, 0, 0, 19, 0);
-        quoteInIs(x, 0, 489, 0, 465, 0, 0, 18, 1);
-        quoteInIs(x, 1, 487, 40, 464, 0, 0, 20, 0);
-        quoteInIs(x, 1, 488, 40, 465, 0, 0, 21, 1);
+        BENCH.quoteInIs(x, 0, 488, 0, 465, 0, 0, 19, 0);
+        BENCH.quoteInIs(x, 0, 489, 0, 465, 0, 0, 18, 1);
+        BENCH.quoteInIs(x, 1, 487, 40, 464, 0, 0, 20, 0);
+        BENCH.quoteInIs(x, 1, 488, 40, 465, 0, 0, 21, 1);
     }
 
     private static void feesJustAboveAWholeNumber() {
@@ -193,10 +168,10 @@ public final class SwapEdgesTest {
             x.add(0, 0, 20, 21, 0, staked[i]);
             int all = wanted[i] + fees[i];
             int given = x.quoteIn(0, 1, 9999, 21, 0);
-            quoteInIs(x, 1, 9999, 21, given, 9999 - all, fees[i], 20, 0);
-            quoteInIs(x, 1, all, 40, given, 0, fees[i], 21, 1);
+            BENCH.quoteInIs(x, 1, 9999, 21, given, 9999 - all, fees[i], 20, 0);
+            BENCH.quoteInIs(x, 1, all, 40, given, 0, fees[i], 21, 1);
             BENCH.due("one less does not do", x.quoteIn(0, 1, all - 1, 40, 3), 20);
-            quoteOutIs(x, 1, given, all, fees[i], 21, 1);
+            BENCH.quoteOutIs(x, 1, given, all, fees[i], 21, 1);
         }
         // A loan of 91 with 11 of a thousand wants 1.001: 2; of 1000 with 1 just 1.
         TickPools x = Bench.made("market 2 2;pool 0 1 11 0 1 1 1" + PURSES);
@@ -213,18 +188,18 @@ public final class SwapEdgesTest {
         // 18463 * 4880 / 100000 is 900.99: 901, of which the fee is 99 wholly; 902 want 99.1: 100.
         TickPools x = Bench.made("market 2 2;pool 0 1 99 0 1 1 1" + PURSES);
         x.add(0, 0, 20, 21, 0, 18463);
-        quoteInIs(x, 1, 1000, 40, 859, 0, 99, 21, 1);
-        quoteInIs(x, 1, 999, 40, 858, 0, 99, 20, 0);
-        quoteOutIs(x, 1, 859, 1000, 99, 21, 1);
+        BENCH.quoteInIs(x, 1, 1000, 40, 859, 0, 99, 21, 1);
+        BENCH.quoteInIs(x, 1, 999, 40, 858, 0, 99, 20, 0);
+        BENCH.quoteOutIs(x, 1, 859, 1000, 99, 21, 1);
         x.add(0, 0, 20, 21, 0, 1);
-        quoteInIs(x, 1, 9999, 40, 859, 9999 - 1002, 100, 39, 1);
-        quoteOutIs(x, 1, 859, 1002, 100, 21, 1);
+        BENCH.quoteInIs(x, 1, 9999, 40, 859, 9999 - 1002, 100, 39, 1);
+        BENCH.quoteOutIs(x, 1, 859, 1002, 100, 21, 1);
         // None at all.
         x = Bench.made("market 2 2;pool 0 1 0 100 1 1 1" + PURSES);
         x.add(0, 0, 20, 21, 0, 18463);
-        quoteInIs(x, 1, 901, 40, 859, 0, 0, 21, 1);
-        quoteOutIs(x, 1, 859, 901, 0, 21, 1);
-        quoteInIs(x, 1, 900, 40, 858, 0, 0, 20, 0);
+        BENCH.quoteInIs(x, 1, 901, 40, 859, 0, 0, 21, 1);
+        BENCH.quoteOutIs(x, 1, 859, 901, 0, 21, 1);
+        BENCH.quoteInIs(x, 1, 900, 40, 858, 0, 0, 20, 0);
         BENCH.due("in", x.in(1, 0, 1, 901, 40), 859);
         BENCH.due("nothing for the house", x.pool(0, 11), 0);
         BENCH.due("nothing owed", x.stake(0, 9), 0);
@@ -278,10 +253,10 @@ public final class SwapEdgesTest {
         TickPools x = Bench.made("market 2 1;pool 0 1 0 0 1" + end);
         x.add(0, 0, 0, 40, 0, 1);
         // 1.59 are wanted down, 1.59 up: by 1 the root is halved, or twice what it was; half of 1 comes out.
-        quoteInIs(x, 0, 1, 0, 0, 0, 0, 5, 0);
-        quoteInIs(x, 1, 1, 40, 0, 0, 0, 34, 0);
-        quoteInIs(x, 0, 2, 0, 0, 0, 0, 0, 0);
-        quoteInIs(x, 1, 2, 40, 0, 0, 0, 39, 0);
+        BENCH.quoteInIs(x, 0, 1, 0, 0, 0, 0, 5, 0);
+        BENCH.quoteInIs(x, 1, 1, 40, 0, 0, 0, 34, 0);
+        BENCH.quoteInIs(x, 0, 2, 0, 0, 0, 0, 0, 0);
+        BENCH.quoteInIs(x, 1, 2, 40, 0, 0, 0, 39, 0);
         TickPools y = Bench.made("market 2 1;pool 0 1 0 0 1" + end);
         y.add(0, 0, 0, 40, 0, 1);
         y.in(0, 0, 0, 1, 0);
@@ -291,13 +266,13 @@ public final class SwapEdgesTest {
         // Out of 2.2: one less of 259374 by 100000, and 38554 up to 10^5 * 38554 / (10^5 - 38554) = 62744.5.
         x = Bench.made("market 2 1;pool 0 1 0 0 1 9999" + end.substring(2));
         x.add(0, 0, 0, 40, 0, 1);
-        quoteOutIs(x, 0, 1, 1, 0, 29, 0);
-        quoteOutIs(x, 0, 3, -2, -2, -2, -2);
+        BENCH.quoteOutIs(x, 0, 1, 1, 0, 29, 0);
+        BENCH.quoteOutIs(x, 0, 3, -2, -2, -2, -2);
         BENCH.due("out", x.out(0, 0, 0, 1), 1);
         standsAt(x, 159374, 29);
         x = Bench.made("market 2 1;pool 0 1 0 0 1 1 9999" + end.substring(4));
         x.add(0, 0, 0, 40, 0, 1);
-        quoteOutIs(x, 1, 1, 1, 0, 10, 0);
+        BENCH.quoteOutIs(x, 1, 1, 1, 0, 10, 0);
         BENCH.due("out", x.out(0, 0, 1, 1), 1);
         standsAt(x, 62745, 10);
         // The whole of a fee.
@@ -309,12 +284,12 @@ public final class SwapEdgesTest {
     }
 
     private static void nothingStaked() {
-        TickPools x = Bench.made(PLAIN);
-        quoteInIs(x, 0, 1, 0, 0, 1, 0, 0, 0);
-        quoteInIs(x, 1, 9999999, 40, 0, 9999999, 0, 39, 0);
-        quoteInIs(x, 0, 5, 20, 0, 5, 0, 20, 0);
-        quoteOutIs(x, 0, 1, -2, -2, -2, -2);
-        quoteOutIs(x, 1, 1, -2, -2, -2, -2);
+        TickPools x = Bench.made(Bench.PLAIN);
+        BENCH.quoteInIs(x, 0, 1, 0, 0, 1, 0, 0, 0);
+        BENCH.quoteInIs(x, 1, 9999999, 40, 0, 9999999, 0, 39, 0);
+        BENCH.quoteInIs(x, 0, 5, 20, 0, 5, 0, 20, 0);
+        BENCH.quoteOutIs(x, 0, 1, -2, -2, -2, -2);
+        BENCH.quoteOutIs(x, 1, 1, -2, -2, -2, -2);
         BENCH.due("in", x.in(1, 0, 0, 50000, 7), 0);
         standsAt(x, 53820, 7);
         BENCH.due("nothing came in", x.purse(1, 0), 50000);
@@ -327,7 +302,7 @@ public final class SwapEdgesTest {
     }
 
     private static void nothingStakedOnTheWay() {
-        TickPools x = Bench.made(PLAIN);
+        TickPools x = Bench.made(Bench.PLAIN);
         x.add(0, 0, 10, 12, 0, 10000);
         x.add(0, 0, 28, 30, 0, 10000);
         // Ticks 12, then 10; 30 at 28 and 30: the ways between want nothing and give nothing.
@@ -336,7 +311,7 @@ public final class SwapEdgesTest {
         BENCH.due("one is enough to get there", x.quoteIn(0, 1, 1, 40, 3), 28);
         BENCH.due("ticks crossed", x.quoteIn(0, 1, 9999, 40, 4), 2);
         // FIRST 10^9 * 6209 / (62092 * 68301) = 1464.1, SECOND 620.9 between ticks 10 and 12; fee 14.8.
-        quoteInIs(x, 0, 9999, 0, 620, 9999 - 1465 - 15, 15, 0, 2);
+        BENCH.quoteInIs(x, 0, 9999, 0, 620, 9999 - 1465 - 15, 15, 0, 2);
         BENCH.due("out through the gap", x.out(1, 0, 0, 620) > 0 ? 1 : 0, 1);
         BENCH.due("ticks crossed", x.count(5), 2);
     }
@@ -345,8 +320,8 @@ public final class SwapEdgesTest {
         TickPools x = Bench.made("market 2 1;pool 0 1 10 0 1 1 9999;purse 0 0 99999;purse 0 1 99999");
         x.add(0, 0, 0, 2, 0, 10000);
         standsAt(x, 38554, 0);
-        quoteInIs(x, 0, 50, 0, 0, 50, 0, 0, 0);
-        quoteOutIs(x, 0, 1, -2, -2, -2, -2);
+        BENCH.quoteInIs(x, 0, 50, 0, 0, 50, 0, 0, 0);
+        BENCH.quoteOutIs(x, 0, 1, -2, -2, -2, -2);
         BENCH.due("in", x.in(0, 0, 0, 50, 0), 0);
         standsAt(x, 38554, 0);
         BENCH.due("up and down again", x.in(0, 0, 1, 50, 40) > 0 && x.in(0, 0, 0, 9999, 0) > 0 ? 1 : 0, 1);
@@ -356,8 +331,8 @@ public final class SwapEdgesTest {
         x = Bench.made("market 2 1;pool 0 1 10 0 1 9999 1;purse 0 0 99999;purse 0 1 99999");
         x.add(0, 0, 38, 40, 1, 10000);
         standsAt(x, 259374, 39);
-        quoteInIs(x, 1, 50, 40, 0, 50, 0, 39, 0);
-        quoteOutIs(x, 1, 1, -2, -2, -2, -2);
+        BENCH.quoteInIs(x, 1, 50, 40, 0, 50, 0, 39, 0);
+        BENCH.quoteOutIs(x, 1, 1, -2, -2, -2, -2);
         BENCH.due("down and up again", x.in(0, 0, 0, 50, 0) > 0 && x.in(0, 0, 1, 9999, 40) > 0 ? 1 : 0, 1);
         standsAt(x, 259374, 39);
         BENCH.due("tick 40 is never crossed", x.count(5), 0);
@@ -367,17 +342,17 @@ public final class SwapEdgesTest {
     // Promise 16.
 
     private static void outRefused() {
-        TickPools x = plain();
+        TickPools x = Bench.plain();
         x.passes(2);
         String before = Bench.picture(x);
-        for (int n : odd(-1, 2)) {
+        for (int n : Bench.odd(-1, 2)) {
             BENCH.due("out of person " + n, x.out(n, 0, 0, 5), -1);
             BENCH.due("out at side " + n, x.out(1, 0, n, 5), -1);
         }
-        for (int n : odd(-1, 1)) {
+        for (int n : Bench.odd(-1, 1)) {
             BENCH.due("out of pool " + n, x.out(1, n, 0, 5), -1);
         }
-        for (int n : odd(0, 10000000)) {
+        for (int n : Bench.odd(0, 10000000)) {
             BENCH.due("out of amount " + n, x.out(1, 0, 0, n), -1);
         }
         BENCH.due("out of the most", x.out(1, 0, 0, 9999999), -2);
@@ -385,16 +360,16 @@ public final class SwapEdgesTest {
     }
 
     private static void outUpToWhatIsServed() {
-        TickPools x = plain();
+        TickPools x = Bench.plain();
         // 465.4 down, 465.29 up.
         BENCH.due("down", x.quoteOut(0, 0, 465, 0), 494);
         BENCH.due("too much", x.quoteOut(0, 0, 466, 0), -2);
         BENCH.due("up", x.quoteOut(0, 1, 465, 0), 493);
         BENCH.due("too much", x.quoteOut(0, 1, 466, 0), -2);
         // One less than is served is no tick crossed: 464 of it want root 95360, and 486.6: 487, fee 4.9.
-        quoteOutIs(x, 0, 464, 492, 5, 19, 0);
-        quoteOutIs(x, 0, 465, 494, 5, 18, 1);
-        quoteOutIs(x, 0, 1, 3, 1, 19, 0);
+        BENCH.quoteOutIs(x, 0, 464, 492, 5, 19, 0);
+        BENCH.quoteOutIs(x, 0, 465, 494, 5, 18, 1);
+        BENCH.quoteOutIs(x, 0, 1, 3, 1, 19, 0);
         BENCH.due("out", x.out(1, 0, 0, 464), 492);
         standsAt(x, 95360, 19);
         // 1.4 are there yet, and what 1 wants.
@@ -404,23 +379,23 @@ public final class SwapEdgesTest {
     }
 
     private static void outWithOneLeftAtATick() {
-        TickPools x = plain();
+        TickPools x = Bench.plain();
         x.add(0, 0, 17, 19, 0, 20000);
         x.add(0, 0, 21, 23, 0, 20000);
         // 465 up to the tick, and 1 of the next stake: root 5 less, FIRST 1.1: 2, fee 1.
-        quoteOutIs(x, 0, 465, 494, 5, 18, 1);
-        quoteOutIs(x, 0, 466, 494 + 3, 6, 18, 1);
+        BENCH.quoteOutIs(x, 0, 465, 494, 5, 18, 1);
+        BENCH.quoteOutIs(x, 0, 466, 494 + 3, 6, 18, 1);
         // 2 * 10^9 * 104880 / (2 * 10^9 - 104880) = 104885.5; SECOND 1.2: 2, fee 1.
-        quoteOutIs(x, 1, 465, 493, 5, 21, 1);
-        quoteOutIs(x, 1, 466, 493 + 3, 6, 21, 1);
+        BENCH.quoteOutIs(x, 1, 465, 493, 5, 21, 1);
+        BENCH.quoteOutIs(x, 1, 466, 493 + 3, 6, 21, 1);
         BENCH.due("out", x.out(1, 0, 0, 466), 497);
         standsAt(x, 95341, 18);
         BENCH.due("purse", x.purse(1, 1), 50466);
         // By in, too: 494 up to the tick, and 1 that is all fee.
-        x = plain();
+        x = Bench.plain();
         x.add(0, 0, 17, 19, 0, 20000);
-        quoteInIs(x, 0, 494, 0, 465, 0, 5, 18, 1);
-        quoteInIs(x, 0, 495, 0, 465, 0, 6, 18, 1);
+        BENCH.quoteInIs(x, 0, 494, 0, 465, 0, 5, 18, 1);
+        BENCH.quoteInIs(x, 0, 495, 0, 465, 0, 6, 18, 1);
     }
 
     private static void outUpToThePurse() {
@@ -435,7 +410,7 @@ public final class SwapEdgesTest {
             BENCH.due("can't be, whatever the purse", x.out(1, 0, 0, 466), -2);
         }
         // With none of it at all.
-        TickPools x = plain();
+        TickPools x = Bench.plain();
         TickPools poor = Bench.made("market 2 3;pool 0 1 10 20 1 1 1" + PURSES);
         poor.add(0, 0, 19, 21, 0, 10000);
         BENCH.due("nobody's purse", poor.out(2, 0, 0, 1), -3);
@@ -471,7 +446,7 @@ public final class SwapEdgesTest {
             {17, 19, 2, 0, 0}, {17, 19, 1, 0, 1}, {21, 23, 1, 1, 0}, {21, 23, 2, 1, 1},
         };
         for (int[] c : cases) {
-            TickPools x = Bench.made(PLAIN);
+            TickPools x = Bench.made(Bench.PLAIN);
             x.add(0, 0, c[0], c[1], c[2], 1000);
             x.in(1, 0, c[3], 9999, c[3] == 0 ? 0 : 40);
             BENCH.due("stake " + c[0] + " to " + c[1] + " of auto " + c[2] + ", side " + c[3], x.count(3), c[4]);
@@ -585,8 +560,8 @@ public final class SwapEdgesTest {
     // Promises 17 and 18.
 
     private static void timeAtItsBounds() {
-        TickPools x = Bench.made(PLAIN);
-        for (int n : odd(0, 10000)) {
+        TickPools x = Bench.made(Bench.PLAIN);
+        for (int n : Bench.odd(0, 10000)) {
             BENCH.due("passes " + n, x.passes(n), -1);
         }
         BENCH.due("passes -1", x.passes(-1), -1);
@@ -610,11 +585,11 @@ public final class SwapEdgesTest {
     }
 
     private static void meanAtItsBounds() {
-        TickPools x = Bench.made(PLAIN);
+        TickPools x = Bench.made(Bench.PLAIN);
         for (int n : new int[] {0, -1, Integer.MIN_VALUE}) {
             BENCH.due("mean of " + n, x.mean(0, n), -1);
         }
-        for (int n : odd(-1, 1)) {
+        for (int n : Bench.odd(-1, 1)) {
             BENCH.due("mean of pool " + n, x.mean(n, 1), -1);
         }
         BENCH.due("at TIME 0 no second has gone", x.mean(0, 1), -2);
@@ -628,7 +603,7 @@ public final class SwapEdgesTest {
 
     /** Pool 0 holds nothing, so it can be sent to any tick; a MARK at each of the times told. */
     private static TickPools marked(int swaps, int apart) {
-        TickPools x = Bench.made(PLAIN);
+        TickPools x = Bench.made(Bench.PLAIN);
         for (int i = 1; i <= swaps; i++) {
             x.passes(apart);
             x.in(0, 0, 0, 1, 0);
@@ -703,7 +678,7 @@ public final class SwapEdgesTest {
         BENCH.due("of pool 0", y.mean(0, 9), -2);
         BENCH.due("of pool 1", y.mean(1, 9), 20);
         // TIME 0 has one from the first.
-        TickPools z = Bench.made(PLAIN);
+        TickPools z = Bench.made(Bench.PLAIN);
         z.in(0, 0, 0, 1, 3);
         z.passes(2);
         BENCH.due("a swap at TIME 0", z.mean(0, 2), 3);
@@ -737,7 +712,7 @@ public final class SwapEdgesTest {
     private static void marksOfANewMarket() {
         TickPools x = marked(11, 2);
         x.passes(2);
-        BENCH.due("another", Bench.market(x, PLAIN), 1);
+        BENCH.due("another", Bench.market(x, Bench.PLAIN), 1);
         BENCH.due("not known", x.mean(0, 1), -2);
         x.passes(5);
         for (int n = 1; n <= 5; n++) {
@@ -748,61 +723,61 @@ public final class SwapEdgesTest {
         x.passes(5);
         BENCH.due("20 and 7", x.mean(0, 10), 13);
         // Twice, as a text is read before it is known to be good.
-        BENCH.holds("refused", Bench.market(x, PLAIN + ";") < -2);
+        BENCH.holds("refused", Bench.market(x, Bench.PLAIN + ";") < -2);
         BENCH.due("20 and 7", x.mean(0, 10), 13);
     }
 
     // Promises 19 and 20.
 
     private static void quoteInAtItsBounds() {
-        TickPools x = plain();
-        for (int n : odd(-1, 1)) {
+        TickPools x = Bench.plain();
+        for (int n : Bench.odd(-1, 1)) {
             BENCH.due("pool " + n, x.quoteIn(n, 0, 5, 0, 0), -1);
         }
-        for (int n : odd(-1, 2)) {
+        for (int n : Bench.odd(-1, 2)) {
             BENCH.due("side " + n, x.quoteIn(0, n, 5, 0, 0), -1);
         }
-        for (int n : odd(0, 10000000)) {
+        for (int n : Bench.odd(0, 10000000)) {
             BENCH.due("amount " + n, x.quoteIn(0, 0, n, 0, 0), -1);
         }
-        for (int n : odd(-1, 41)) {
+        for (int n : Bench.odd(-1, 41)) {
             BENCH.due("end " + n, x.quoteIn(0, 0, 5, n, 0), -1);
             BENCH.due("end " + n, x.quoteIn(0, 1, 5, n, 0), -1);
         }
-        for (int n : odd(-1, 5)) {
+        for (int n : Bench.odd(-1, 5)) {
             BENCH.due("what " + n, x.quoteIn(0, 0, 5, 0, n), -1);
         }
-        quoteInIs(x, 0, 1, 0, 0, 0, 1, 20, 0);
-        quoteInIs(x, 0, 9999999, 0, 465, 9999999 - 494, 5, 0, 1);
-        quoteInIs(x, 1, 9999999, 40, 465, 9999999 - 493, 5, 39, 1);
+        BENCH.quoteInIs(x, 0, 1, 0, 0, 0, 1, 20, 0);
+        BENCH.quoteInIs(x, 0, 9999999, 0, 465, 9999999 - 494, 5, 0, 1);
+        BENCH.quoteInIs(x, 1, 9999999, 40, 465, 9999999 - 493, 5, 39, 1);
     }
 
     private static void quoteOutAtItsBounds() {
-        TickPools x = plain();
-        for (int n : odd(-1, 1)) {
+        TickPools x = Bench.plain();
+        for (int n : Bench.odd(-1, 1)) {
             BENCH.due("pool " + n, x.quoteOut(n, 0, 5, 0), -1);
         }
-        for (int n : odd(-1, 2)) {
+        for (int n : Bench.odd(-1, 2)) {
             BENCH.due("side " + n, x.quoteOut(0, n, 5, 0), -1);
         }
-        for (int n : odd(0, 10000000)) {
+        for (int n : Bench.odd(0, 10000000)) {
             BENCH.due("amount " + n, x.quoteOut(0, 0, n, 0), -1);
         }
-        for (int n : odd(-1, 4)) {
+        for (int n : Bench.odd(-1, 4)) {
             BENCH.due("what " + n, x.quoteOut(0, 0, 5, n), -1);
             BENCH.due("what " + n + " of what can't be", x.quoteOut(0, 0, 9999999, n), -1);
         }
-        quoteOutIs(x, 0, 9999999, -2, -2, -2, -2);
-        quoteOutIs(x, 1, 9999999, -2, -2, -2, -2);
-        quoteOutIs(x, 1, 1, 3, 1, 20, 0);
+        BENCH.quoteOutIs(x, 0, 9999999, -2, -2, -2, -2);
+        BENCH.quoteOutIs(x, 1, 9999999, -2, -2, -2, -2);
+        BENCH.quoteOutIs(x, 1, 1, 3, 1, 20, 0);
     }
 
     private static void quotesAskNoPurse() {
         TickPools x = Bench.made("market 2 1;pool 0 1 10 20 1 1 1;purse 0 0 466;purse 0 1 466");
         x.add(0, 0, 19, 21, 0, 10000);
         BENCH.due("empty", x.purse(0, 0) + x.purse(0, 1), 0);
-        quoteInIs(x, 0, 9999, 0, 465, 9999 - 494, 5, 0, 1);
-        quoteOutIs(x, 0, 465, 494, 5, 18, 1);
+        BENCH.quoteInIs(x, 0, 9999, 0, 465, 9999 - 494, 5, 0, 1);
+        BENCH.quoteOutIs(x, 0, 465, 494, 5, 18, 1);
         BENCH.due("round", x.round(0, 0, 100), 97);
         BENCH.due("least", x.least(0, 0, 18), 494);
         BENCH.due("route", x.route(0, 1, 100, 0), 98);

@@ -1,8 +1,6 @@
 /** Promises 15 to 20 and 27: swaps in and out, time, the mean, quotes. */
 public final class SwapTest {
     private static final Bench BENCH = new Bench("SwapTest");
-    private static final String PLAIN = "market 2 2;pool 0 1 10 20 1 1 1"
-        + ";purse 0 0 100000;purse 0 1 100000;purse 1 0 50000;purse 1 1 50000";
 
     public static void main(String[] args) {
         withinOneStep();
@@ -33,30 +31,10 @@ public final class SwapTest {
         BENCH.finish();
     }
 
-    private static TickPools plain() {
-        TickPools x = Bench.made(PLAIN);
-        x.add(0, 0, 19, 21, 0, 10000);
-        return x;
-    }
-
-    private static void quoteInIs(TickPools x, int side, int amount, int end, int... due) {
-        for (int what = 0; what < due.length; what++) {
-            BENCH.due("quoteIn " + side + " " + amount + " " + end + ", what " + what,
-                x.quoteIn(0, side, amount, end, what), due[what]);
-        }
-    }
-
-    private static void quoteOutIs(TickPools x, int side, int amount, int... due) {
-        for (int what = 0; what < due.length; what++) {
-            BENCH.due("quoteOut " + side + " " + amount + ", what " + what,
-                x.quoteOut(0, side, amount, what), due[what]);
-        }
-    }
-
     private static void withinOneStep() {
-        TickPools x = plain();
+        TickPools x = Bench.plain();
         // n is 99; the root becomes 10^14 / (10^9 + 9900000) = 99019.7; 10000 * 980 / 100000 comes out.
-        quoteInIs(x, 0, 100, 0, 98, 0, 1, 19, 0);
+        BENCH.quoteInIs(x, 0, 100, 0, 98, 0, 1, 19, 0);
         BENCH.due("in", x.in(1, 0, 0, 100, 0), 98);
         BENCH.due("root", x.pool(0, 6), 99020);
         BENCH.due("zone", x.pool(0, 5), 19);
@@ -66,9 +44,9 @@ public final class SwapTest {
         BENCH.due("held", x.pool(0, 9), 368);
         // 1048576 / 10000 is 104; 10000 * 104 / 1048576 is 0.99.
         BENCH.due("owed", x.stake(0, 8), 0);
-        x = plain();
+        x = Bench.plain();
         // The root is 99 * 100000 / 10000 more; 10^9 * 990 / (100000 * 100990) = 98.03.
-        quoteInIs(x, 1, 100, 40, 98, 0, 1, 20, 0);
+        BENCH.quoteInIs(x, 1, 100, 40, 98, 0, 1, 20, 0);
         BENCH.due("in", x.in(1, 0, 1, 100, 40), 98);
         BENCH.due("root", x.pool(0, 6), 100990);
         BENCH.due("zone", x.pool(0, 5), 20);
@@ -76,9 +54,9 @@ public final class SwapTest {
     }
 
     private static void acrossATick() {
-        TickPools x = plain();
+        TickPools x = Bench.plain();
         // Wanted 488.1: 489; fee 4.9: 5; out 465.4: 465; then there is nothing down to tick 0.
-        quoteInIs(x, 0, 1000, 0, 465, 506, 5, 0, 1);
+        BENCH.quoteInIs(x, 0, 1000, 0, 465, 506, 5, 0, 1);
         BENCH.due("in", x.in(1, 0, 0, 1000, 0), 465);
         BENCH.due("purse", x.purse(1, 0), 50000 - 494);
         BENCH.due("purse", x.purse(1, 1), 50465);
@@ -88,32 +66,32 @@ public final class SwapTest {
         BENCH.due("house", x.pool(0, 10), 1);
         BENCH.due("held", x.pool(0, 8), 466 + 494);
         BENCH.due("held", x.pool(0, 9), 1);
-        x = plain();
+        x = Bench.plain();
         // Just enough for the tick: 494 * 990 / 1000 = 489.06. It is crossed, and nothing is left.
-        quoteInIs(x, 0, 494, 0, 465, 0, 5, 18, 1);
+        BENCH.quoteInIs(x, 0, 494, 0, 465, 0, 5, 18, 1);
         // One less: the root stops at 95348, and 465.2 comes out all the same.
-        quoteInIs(x, 0, 493, 0, 465, 0, 5, 19, 0);
+        BENCH.quoteInIs(x, 0, 493, 0, 465, 0, 5, 19, 0);
         BENCH.due("in", x.in(1, 0, 0, 494, 0), 465);
         BENCH.due("zone", x.pool(0, 5), 18);
         BENCH.due("root", x.pool(0, 6), 95346);
         BENCH.due("is it in", x.stake(0, 10), 0);
-        x = plain();
+        x = Bench.plain();
         // Up: wanted 488, fee 4.93: 5, out 465.29: 465; with 493 the tick 21 is crossed.
-        quoteInIs(x, 1, 493, 40, 465, 0, 5, 21, 1);
-        quoteInIs(x, 1, 492, 40, 464, 0, 5, 20, 0);
-        quoteInIs(x, 1, 600, 40, 465, 107, 5, 39, 1);
+        BENCH.quoteInIs(x, 1, 493, 40, 465, 0, 5, 21, 1);
+        BENCH.quoteInIs(x, 1, 492, 40, 464, 0, 5, 20, 0);
+        BENCH.quoteInIs(x, 1, 600, 40, 465, 107, 5, 39, 1);
         BENCH.due("in", x.in(0, 0, 1, 600, 40), 465);
         BENCH.due("root", x.pool(0, 6), 259374);
         BENCH.due("zone", x.pool(0, 5), 39);
     }
 
     private static void upToAnEnd() {
-        TickPools x = plain();
-        quoteInIs(x, 0, 1000, 19, 465, 506, 5, 19, 0);
-        quoteInIs(x, 0, 1000, 18, 465, 506, 5, 18, 1);
-        quoteInIs(x, 0, 1000, 20, 0, 1000, 0, 20, 0);
-        quoteInIs(x, 1, 1000, 21, 465, 507, 5, 20, 0);
-        quoteInIs(x, 1, 1000, 22, 465, 507, 5, 21, 1);
+        TickPools x = Bench.plain();
+        BENCH.quoteInIs(x, 0, 1000, 19, 465, 506, 5, 19, 0);
+        BENCH.quoteInIs(x, 0, 1000, 18, 465, 506, 5, 18, 1);
+        BENCH.quoteInIs(x, 0, 1000, 20, 0, 1000, 0, 20, 0);
+        BENCH.quoteInIs(x, 1, 1000, 21, 465, 507, 5, 20, 0);
+        BENCH.quoteInIs(x, 1, 1000, 22, 465, 507, 5, 21, 1);
         BENCH.due("in to 19", x.in(1, 0, 0, 1000, 19), 465);
         BENCH.due("root", x.pool(0, 6), 95346);
         BENCH.due("zone", x.pool(0, 5), 19);
@@ -123,10 +101,10 @@ public final class SwapTest {
     }
 
     private static void noStep() {
-        TickPools x = plain();
-        quoteInIs(x, 0, 50, 21, 0, 50, 0, 20, 0);
-        quoteInIs(x, 1, 50, 20, 0, 50, 0, 20, 0);
-        quoteInIs(x, 1, 50, 0, 0, 50, 0, 20, 0);
+        TickPools x = Bench.plain();
+        BENCH.quoteInIs(x, 0, 50, 21, 0, 50, 0, 20, 0);
+        BENCH.quoteInIs(x, 1, 50, 20, 0, 50, 0, 20, 0);
+        BENCH.quoteInIs(x, 1, 50, 0, 0, 50, 0, 20, 0);
         String before = Bench.picture(x);
         BENCH.due("in", x.in(1, 0, 0, 50, 21), 0);
         BENCH.due("in", x.in(1, 0, 1, 50, 20), 0);
@@ -134,7 +112,7 @@ public final class SwapTest {
     }
 
     private static void inWrongly() {
-        TickPools x = plain();
+        TickPools x = Bench.plain();
         String before = Bench.picture(x);
         int[][] wrong = {
             {2, 0, 0, 1, 0}, {-1, 0, 0, 1, 0}, {0, 1, 0, 1, 0}, {0, -1, 0, 1, 0}, {0, 0, 2, 1, 0}, {0, 0, -1, 1, 0},
@@ -149,7 +127,7 @@ public final class SwapTest {
     }
 
     private static void emptyPool() {
-        TickPools x = Bench.made(PLAIN);
+        TickPools x = Bench.made(Bench.PLAIN);
         BENCH.due("nothing comes out", x.in(0, 0, 0, 5, 7), 0);
         BENCH.due("nothing came in", x.purse(0, 0), 100000);
         BENCH.due("zone", x.pool(0, 5), 7);
@@ -162,16 +140,16 @@ public final class SwapTest {
     }
 
     private static void outWithinOneStep() {
-        TickPools x = plain();
+        TickPools x = Bench.plain();
         // The root is 1000 less; FIRST 101.01: 102; fee 1.03: 2.
-        quoteOutIs(x, 0, 100, 104, 2, 19, 0);
+        BENCH.quoteOutIs(x, 0, 100, 104, 2, 19, 0);
         BENCH.due("out", x.out(1, 0, 0, 100), 104);
         BENCH.due("root", x.pool(0, 6), 99000);
         BENCH.due("purse", x.purse(1, 0), 50000 - 104);
         BENCH.due("purse", x.purse(1, 1), 50100);
-        x = plain();
+        x = Bench.plain();
         // The root becomes 10^14 / (10^9 - 10^7) = 101010.1: 101011; SECOND 101.1: 102; fee 2.
-        quoteOutIs(x, 1, 100, 104, 2, 20, 0);
+        BENCH.quoteOutIs(x, 1, 100, 104, 2, 20, 0);
         BENCH.due("out", x.out(1, 0, 1, 100), 104);
         BENCH.due("root", x.pool(0, 6), 101011);
         BENCH.due("purse", x.purse(1, 0), 50100);
@@ -179,28 +157,28 @@ public final class SwapTest {
     }
 
     private static void outAcrossATick() {
-        TickPools x = plain();
-        quoteOutIs(x, 0, 465, 494, 5, 18, 1);
+        TickPools x = Bench.plain();
+        BENCH.quoteOutIs(x, 0, 465, 494, 5, 18, 1);
         BENCH.due("out", x.out(1, 0, 0, 465), 494);
         BENCH.due("zone", x.pool(0, 5), 18);
         BENCH.due("root", x.pool(0, 6), 95346);
         BENCH.due("crossed", x.count(5), 1);
-        x = plain();
-        quoteOutIs(x, 1, 465, 493, 5, 21, 1);
+        x = Bench.plain();
+        BENCH.quoteOutIs(x, 1, 465, 493, 5, 21, 1);
         x.add(0, 0, 21, 22, 0, 10000);
         // On behind tick 21: 10^9 * 104880 / (10^9 - 10 * 104880) = 104990.1: 104991; SECOND 11.1: 12; fee 0.1: 1.
-        quoteOutIs(x, 1, 475, 493 + 13, 6, 21, 1);
+        BENCH.quoteOutIs(x, 1, 475, 493 + 13, 6, 21, 1);
     }
 
     private static void outThatCannotBe() {
-        TickPools x = plain();
+        TickPools x = Bench.plain();
         x.passes(3);
         String before = Bench.picture(x);
         BENCH.due("out", x.out(0, 0, 0, 466), -2);
         BENCH.due("out", x.out(0, 0, 1, 466), -2);
         BENCH.due("out of the most", x.out(0, 0, 1, 9999999), -2);
         BENCH.holds("nothing happened", before.equals(Bench.picture(x)));
-        quoteOutIs(x, 0, 466, -2, -2, -2, -2);
+        BENCH.quoteOutIs(x, 0, 466, -2, -2, -2, -2);
         // A stake that ends at tick 0: all comes out, and it is at its end.
         x = Bench.made("market 2 1;pool 0 1 0 0 1 1 9999;purse 0 0 99999;purse 0 1 99999");
         x.add(0, 0, 0, 1, 0, 99999);
@@ -233,7 +211,7 @@ public final class SwapTest {
     }
 
     private static void outWrongly() {
-        TickPools x = plain();
+        TickPools x = Bench.plain();
         String before = Bench.picture(x);
         int[][] wrong = {
             {2, 0, 0, 1}, {-1, 0, 0, 1}, {0, 1, 0, 1}, {0, -1, 0, 1}, {0, 0, 2, 1}, {0, 0, -1, 1},
@@ -246,7 +224,7 @@ public final class SwapTest {
     }
 
     private static void dropsByThemselves() {
-        TickPools x = Bench.made(PLAIN);
+        TickPools x = Bench.made(Bench.PLAIN);
         x.add(0, 0, 19, 21, 2, 10000);
         x.add(0, 0, 30, 31, 0, 1);
         int had = x.purse(0, 0);
@@ -256,7 +234,7 @@ public final class SwapTest {
         // 953.4 of it, and 3 of the fee of this very step.
         BENCH.due("purse", x.purse(0, 0), had + 956);
         BENCH.due("crossed", x.count(5), 1);
-        x = Bench.made(PLAIN);
+        x = Bench.made(Bench.PLAIN);
         x.add(0, 0, 19, 21, 1, 10000);
         x.add(1, 0, 20, 21, 1, 10000);
         x.add(1, 0, 19, 21, 0, 10000);
@@ -271,14 +249,14 @@ public final class SwapTest {
         BENCH.due("what lasts is owed", x.stake(0, 9), 3);
         BENCH.due("total", x.total(0), 150000);
         BENCH.due("total", x.total(1), 150000);
-        x = Bench.made(PLAIN);
+        x = Bench.made(Bench.PLAIN);
         x.add(0, 0, 19, 21, 2, 10000);
         BENCH.due("out drops them, too", x.out(1, 0, 0, 465), 494);
         BENCH.due("none is left", x.count(3), 0);
     }
 
     private static void dropsOnlyWhenCrossed() {
-        TickPools x = Bench.made(PLAIN);
+        TickPools x = Bench.made(Bench.PLAIN);
         x.add(0, 0, 19, 21, 2, 10000);
         BENCH.due("to the end", x.in(1, 0, 0, 494, 19), 465);
         BENCH.due("it stays", x.count(3), 1);
@@ -288,11 +266,11 @@ public final class SwapTest {
     }
 
     private static void dropsOfOneSideOnly() {
-        TickPools x = Bench.made(PLAIN);
+        TickPools x = Bench.made(Bench.PLAIN);
         x.add(0, 0, 19, 21, 1, 10000);
         x.in(1, 0, 0, 494, 0);
         BENCH.due("auto 1 stays downwards", x.count(3), 1);
-        x = Bench.made(PLAIN);
+        x = Bench.made(Bench.PLAIN);
         x.add(0, 0, 19, 21, 2, 10000);
         x.in(1, 0, 1, 493, 40);
         BENCH.due("auto 2 stays upwards", x.count(3), 1);
@@ -305,12 +283,12 @@ public final class SwapTest {
     }
 
     private static void backUpThroughTheSameTick() {
-        TickPools x = plain();
+        TickPools x = Bench.plain();
         x.in(1, 0, 0, 494, 0);
         BENCH.due("zone", x.pool(0, 5), 18);
         BENCH.due("in its zone there is none", x.pool(0, 7), 0);
         // A tick at which it stands is crossed by a step of nothing; 10^9 * 990 / (95346 * 96336) = 107.8.
-        quoteInIs(x, 1, 100, 40, 107, 0, 1, 19, 1);
+        BENCH.quoteInIs(x, 1, 100, 40, 107, 0, 1, 19, 1);
         BENCH.due("up", x.in(1, 0, 1, 100, 40), 107);
         BENCH.due("zone", x.pool(0, 5), 19);
         BENCH.due("crossed", x.count(5), 2);
@@ -333,7 +311,7 @@ public final class SwapTest {
         TickPools x = Bench.made("market 2 1;pool 0 1 1 100 1 1 1;purse 0 0 999999;purse 0 1 999999");
         x.add(0, 0, 10, 30, 0, 99999);
         // n of 1 is 0: all is fee, and all of that is the house's.
-        quoteInIs(x, 0, 1, 0, 0, 0, 1, 20, 0);
+        BENCH.quoteInIs(x, 0, 1, 0, 0, 0, 1, 20, 0);
         BENCH.due("in", x.in(0, 0, 0, 1, 0), 0);
         BENCH.due("root", x.pool(0, 6), 100000);
         BENCH.due("house", x.pool(0, 10), 1);
@@ -341,11 +319,11 @@ public final class SwapTest {
     }
 
     private static void endInItsOwnZone() {
-        TickPools x = plain();
+        TickPools x = Bench.plain();
         x.in(1, 0, 1, 100, 40);
         // Down from 100990 to tick 20: FIRST 10^9 * 990 / (100000 * 100990) = 98.03: 99; fee 1; SECOND 99.
-        quoteInIs(x, 0, 500, 20, 99, 400, 1, 20, 0);
-        quoteInIs(x, 1, 500, 20, 0, 500, 0, 20, 0);
+        BENCH.quoteInIs(x, 0, 500, 20, 99, 400, 1, 20, 0);
+        BENCH.quoteInIs(x, 1, 500, 20, 0, 500, 0, 20, 0);
         BENCH.due("in", x.in(1, 0, 0, 500, 20), 99);
         BENCH.due("root", x.pool(0, 6), 100000);
         BENCH.due("zone", x.pool(0, 5), 20);
@@ -356,24 +334,24 @@ public final class SwapTest {
         x.add(0, 0, 15, 25, 0, 50000);
         x.add(0, 0, 15, 25, 1, 50000);
         // 4880 * 100000 / 100000 more: the root of tick 21, at which no stake begins or ends.
-        quoteInIs(x, 1, 4880, 40, 4652, 0, 0, 21, 0);
-        quoteInIs(x, 1, 4879, 40, 4652, 0, 0, 20, 0);
+        BENCH.quoteInIs(x, 1, 4880, 40, 4652, 0, 0, 21, 0);
+        BENCH.quoteInIs(x, 1, 4879, 40, 4652, 0, 0, 20, 0);
         x = Bench.made("market 2 1;pool 0 1 0 0 1 1 1;purse 0 0 9999999;purse 0 1 9999999");
         for (int i = 0; i < 10; i++) {
             x.add(0, 0, 20, 21, 0, 99999);
             x.add(0, 0, 19, 20, 0, 99999);
         }
         // Of 999990 there are 46528.8 up to tick 21: one less, and the root is upwards that of 21, but not reached.
-        quoteOutIs(x, 1, 46527, 48800, 0, 20, 0);
-        quoteOutIs(x, 1, 46528, 48800, 0, 21, 1);
+        BENCH.quoteOutIs(x, 1, 46527, 48800, 0, 20, 0);
+        BENCH.quoteOutIs(x, 1, 46528, 48800, 0, 21, 1);
         // Across tick 20, at which it stands, there are 46539.5 down to tick 19.
-        quoteOutIs(x, 0, 46538, 48812, 0, 19, 1);
-        quoteOutIs(x, 0, 46539, 48812, 0, 18, 2);
+        BENCH.quoteOutIs(x, 0, 46538, 48812, 0, 19, 1);
+        BENCH.quoteOutIs(x, 0, 46539, 48812, 0, 18, 2);
         x.out(0, 0, 0, 46538);
         BENCH.due("root", x.pool(0, 6), 95346);
         BENCH.due("zone", x.pool(0, 5), 19);
         // The tick itself is still ahead.
-        quoteInIs(x, 0, 1, 0, 0, 1, 0, 0, 1);
+        BENCH.quoteInIs(x, 0, 1, 0, 0, 1, 0, 0, 1);
     }
 
     private static void withinTheOutermostZones() {
@@ -395,7 +373,7 @@ public final class SwapTest {
     }
 
     private static void time() {
-        TickPools x = plain();
+        TickPools x = Bench.plain();
         BENCH.due("passes", x.passes(1), 1);
         BENCH.due("passes", x.passes(9999), 10000);
         BENCH.due("none", x.passes(0), -1);
@@ -406,7 +384,7 @@ public final class SwapTest {
     }
 
     private static void means() {
-        TickPools x = plain();
+        TickPools x = Bench.plain();
         BENCH.due("nothing passed", x.mean(0, 1), -2);
         x.passes(10);
         BENCH.due("mean", x.mean(0, 10), 20);
@@ -434,7 +412,7 @@ public final class SwapTest {
     }
 
     private static void marksAreEight() {
-        TickPools x = plain();
+        TickPools x = Bench.plain();
         x.in(1, 0, 0, 1, 0);
         for (int i = 1; i <= 7; i++) {
             x.passes(2);
@@ -453,7 +431,7 @@ public final class SwapTest {
     }
 
     private static void meansOverManyMarks() {
-        TickPools x = Bench.made(PLAIN);
+        TickPools x = Bench.made(Bench.PLAIN);
         int[] zones = new int[200];
         int time = 0;
         int zone = 20;
@@ -490,7 +468,7 @@ public final class SwapTest {
     }
 
     private static void quotesWrongly() {
-        TickPools x = plain();
+        TickPools x = Bench.plain();
         int[] odd = {-1, 2, Integer.MAX_VALUE, Integer.MIN_VALUE};
         for (int n : odd) {
             BENCH.due("quoteIn pool", x.quoteIn(n, 0, 1, 0, 0), -1);

@@ -43,14 +43,6 @@ public final class TapeEdgesTest {
         BENCH.due("market of '" + text + "'", Bench.market(new TickPools(), text), Bench.fault(place, kind));
     }
 
-    private static String padded(String text, int length) {
-        StringBuilder all = new StringBuilder(text);
-        while (all.length() < length) {
-            all.append(' ');
-        }
-        return all.toString();
-    }
-
     // Promise 1.
 
     private static void nothingOfAMarketWithoutOne() {
@@ -69,7 +61,7 @@ public final class TapeEdgesTest {
 
     private static void feedWhenFull() {
         TickPools x = new TickPools();
-        Bench.tell(x, padded("market 3 2", 400));
+        Bench.tell(x, Bench.padded("market 3 2", 400));
         BENCH.due("it is full", x.count(6), 400);
         BENCH.due("one more", x.feed(0x58585858, 0x58585858, 0x58585858, 0x58585858, 0x58585858), -1);
         BENCH.due("none has come", x.count(6), 400);
@@ -81,14 +73,14 @@ public final class TapeEdgesTest {
     private static void feedWithoutRoomForAllTwenty() {
         for (int length = 381; length < 400; length++) {
             TickPools x = new TickPools();
-            Bench.tell(x, padded("market 2 1", 400));
+            Bench.tell(x, Bench.padded("market 2 1", 400));
             x.end(length);
             BENCH.due("no room behind " + length, x.feed(0x21212121, 0, 0, 0, 0), -1);
             BENCH.due("none of them has come", x.count(6), length);
             BENCH.due("nothing but blanks there", x.market(), 0);
         }
         TickPools x = new TickPools();
-        Bench.tell(x, padded("market 2 1", 400));
+        Bench.tell(x, Bench.padded("market 2 1", 400));
         x.end(380);
         BENCH.due("just room", x.feed(0x20202020, 0x20202020, 0x20202020, 0x20202020, 0x20202021), 400);
         BENCH.due("the last byte is there", x.market(), Bench.fault(399, 0));
@@ -176,19 +168,19 @@ public final class TapeEdgesTest {
     }
 
     private static void textOfFourHundredBytes() {
-        good(padded(TWO + POOL, 400), 1);
-        StringBuilder text = new StringBuilder(padded("", 400 - TWO.length() - POOL.length()));
+        good(Bench.padded(TWO + POOL, 400), 1);
+        StringBuilder text = new StringBuilder(Bench.padded("", 400 - TWO.length() - POOL.length()));
         good(text + TWO + POOL, 1);
-        good(padded(TWO + ";purse 0 0 ", 393) + "9999999", 0);
+        good(Bench.padded(TWO + ";purse 0 0 ", 393) + "9999999", 0);
     }
 
     private static void faultsAtTheFarEnd() {
-        faulty(padded("", 400), 400, 0);
-        faulty(padded(TWO, 399) + ";", 400, 0);
-        faulty(padded(TWO, 399) + "x", 399, 0);
-        faulty(padded(TWO + ";", 399) + "p", 399, 0);
-        faulty(padded(TWO + ";", 394) + "market", 394, 2);
-        faulty(padded(TWO + ";purse 0 0 ", 392) + "99999999", 392, 1);
+        faulty(Bench.padded("", 400), 400, 0);
+        faulty(Bench.padded(TWO, 399) + ";", 400, 0);
+        faulty(Bench.padded(TWO, 399) + "x", 399, 0);
+        faulty(Bench.padded(TWO + ";", 399) + "p", 399, 0);
+        faulty(Bench.padded(TWO + ";", 394) + "market", 394, 2);
+        faulty(Bench.padded(TWO + ";purse 0 0 ", 392) + "99999999", 392, 1);
         BENCH.due("the greatest there is", Bench.fault(400, 0), -3203);
     }
 
