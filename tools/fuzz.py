@@ -24,7 +24,7 @@ def gen_market():
         cl.append('pool %d %d %d %d %d %d %d'%(a,b,rnd.choice([0,1,3,10,30,99,ri(0,99)]),rnd.choice([0,100,20,ri(0,100)]),rnd.choice([1,1,1,2,5,10,ri(1,10)]),aa,bb))
     for p in range(Pe):
         for t in range(T):
-            if len(cl)<30 and rnd.random()<.9: cl.append('purse %d %d %d'%(p,t,rnd.choice([9999999,9999999,amt(),100000,1000000])))
+            if len(cl)<30 and rnd.random()<.9: cl.append('purse %d %d %d'%(p,t,rnd.choice([9999999,9999999,amt(),0,100000,1000000])))
     s=';'.join(cl)
     while len(s)>400: cl.pop(); s=';'.join(cl)
     return s
@@ -69,12 +69,32 @@ def gen_steps(o,d,budget):
             if k<.9: out.append('lend %d %d %s [%s]'%(p,ri(0,1),rnd.choice(['all',str(ri(1,1000)),str(ri(1,100000)),'got']),inner))
             else: out.append('times %d [%s]'%(rnd.choice([0,1,2,3,20,ri(0,20)]),inner))
     return rnd.choice([';',' ; ','; '] ).join(out)
+def gen_loans(o,th,d):
+    # steps by one who has little: what was lent is swapped on, so that some can't go back
+    out=[]
+    for _ in range(ri(1,3)):
+        ways=[(i,p.t.index(th)) for i,p in enumerate(o.m.pools) if th in p.t]
+        if not ways: return 'least 0 0'
+        i,s=rnd.choice(ways); k=rnd.random()
+        if d==0 or k<.2 and d<4: out.append('lend %d %d %s[%s]'%(i,s,rnd.choice(['all','got',str(ri(1,99)),str(ri(1,9999))]),gen_loans(o,th,d+1)))
+        elif k<.3 and d<4: out.append('times %d[%s]'%(ri(0,12),gen_loans(o,th,d+1)))
+        elif k<.4: out.append('out %d %d %s'%(i,1-s,rnd.choice(['got',str(ri(1,500))])))
+        else: out.append('in %d %d %s'%(i,s,rnd.choice(['all','all','got','1','10']))); th=o.m.pools[i].t[1-s]
+    return ';'.join(out)
+def at_limit():
+    k=ri(0,4)
+    if k==0: return ';'.join(['in0 0 1']*ri(36,43))+rnd.choice(['',';','x','; in0','9'])
+    if k==1: n=ri(2,6); return 'times1['*n+'least 0 0'+']'*ri(n-1,n+1)
+    if k==2: return 'times%d[times%d[least 0 0;least 0 0]%s]'%(ri(0,21),ri(0,6),rnd.choice(['',';in 0 0 1','x']))
+    if k==3: return 'lend 0 0 1['*ri(0,1)+'times1['*3+'lend 1 0 1['*ri(0,1)+'least 0 0'+']'*ri(3,5)
+    return 'times 20[in 0 0 1;in 0 1 1];times 20[least 0 0]'+';least 0 0'*ri(30,45)
+def market_at_limit(): return 'market 2 1'+rnd.choice([';purse0 0 1'*ri(27,33),';pool 0 1 0 0 1 1 1'*ri(4,7)])+rnd.choice(['',';','x',' ',';market'])
 log=[]
 def rec(o,name,*a):
     v=getattr(o,'in_' if name=='in' else name)(*a)
     log.append((name,a,v)); return v
 def feedtext(o,s):
-    b=s.encode('latin1'); base=len(o.tape)
+    b=s.encode('latin1')[:400]; base=len(o.tape)
     for i in range(0,len(b),20):
         c=b[i:i+20].ljust(20,b'\0')
         ns=[int.from_bytes(c[j:j+4],'big') for j in range(0,20,4)]
@@ -140,12 +160,13 @@ def act(o):
     elif k<.85: rec(o,'depth',p,ri(-1,40))
     elif k<.855: rec(o,'root',ri(-2,42))
     elif k<.97 and m:
-        s=gen_steps(o,0,[12])
+        k=rnd.random()
+        s=gen_steps(o,0,[12]) if k<.6 else at_limit() if k<.75 else gen_loans(o,ri(0,m.things-1),0)
         if rnd.random()<.15: s=mutate(s)
         if o.tape: rec(o,'end',0)
         feedtext(o,s); rec(o,'bundle',pe)
     elif k<.99:
-        s=mutate(gen_market())
+        s=market_at_limit() if rnd.random()<.4 else mutate(gen_market())
         if o.tape: rec(o,'end',0)
         feedtext(o,s); rec(o,'market')
     else: dump(o)
@@ -179,7 +200,7 @@ if r.returncode: print(r.stderr[:2000])
 outs=r.stdout.split()
 badn=0
 for i,((n,a,v),g) in enumerate(zip(log,outs)):
-    stat.setdefault(n,{}); key='neg%d'%v if -3<=v<0 else ('fault' if v<0 else ('0' if v==0 else '+')); stat[n][key]=stat[n].get(key,0)+1
+    stat.setdefault(n,{}); key='neg%d'%v if -3<=v<0 else ('fault%d'%((-v-3)%8) if v<-3 else ('0' if v==0 else '+')); stat[n][key]=stat[n].get(key,0)+1
     if int(g)!=v:
         badn+=1
         if badn<=5: print('BAD',i,n,a,'oracle',v,'java',g)

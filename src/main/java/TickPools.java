@@ -558,6 +558,10 @@ public final class TickPools {
             return side == 0 ? first : second;
         }
 
+        int heldOn(int side) {
+            return isSide(side) ? held[side] : 0;
+        }
+
         int sideOf(int thing) {
             if (thing == first) {
                 return 0;
@@ -786,9 +790,7 @@ public final class TickPools {
             }
             for (int i = 0; i < pools && i < poolRow.length; i++) {
                 int side = poolRow[i].sideOf(thing);
-                if (side == 0 || side == 1) {
-                    all += poolRow[i].held[side];
-                }
+                all += poolRow[i].heldOn(side);
             }
             return all;
         }
@@ -1098,7 +1100,7 @@ public final class TickPools {
         }
 
         private void finish(int person) {
-            if (!real) {
+            if (!real || !isSide(side)) {
                 return;
             }
             market.crossed += crossed;
@@ -1684,7 +1686,7 @@ public final class TickPools {
                 return false;
             }
             int purse = market.purseOf(person, p.thingOn(s.side));
-            long amount = muchOf(s, p.held[1 - s.side]);
+            long amount = muchOf(s, p.heldOn(1 - s.side));
             if (amount < 1 || amount > MOST_AMOUNT) {
                 return false;
             }
@@ -1708,8 +1710,9 @@ public final class TickPools {
             if (p == null || isLocked(s.pool) || market.liquidityAt(s.pool, p.zone) < 1) {
                 return false;
             }
-            long amount = muchOf(s, p.held[s.side]);
-            if (amount < 1 || amount > p.held[s.side] || !canOpen()) {
+            int held = p.heldOn(s.side);
+            long amount = muchOf(s, held);
+            if (amount < 1 || amount > held || !canOpen()) {
                 return false;
             }
             market.payOut(p, s.side, person, (int) amount);
@@ -1838,7 +1841,7 @@ public final class TickPools {
                         long given = trial(market, depth, number);
                         if (given > 0 && home) {
                             consider(depth + 1, given, much);
-                        } else if (given > 0) {
+                        } else if (given > 0 && on) {
                             depth++;
                             thing[depth] = reached;
                             amount[depth] = given;
